@@ -352,7 +352,7 @@ public final class ShiftBuses {
     return value >= LEAST_SETTINGS[which] && value <= MOST_SETTINGS[which];
   }
 
-  /** Answers the error of merging, 0 if both buses can be merged. */
+  /** merge and spares ask the same in the same order; 0 is no error. */
   private int mergingError(int line, int end, int other) {
     if (!isLine(line) || !works.hasEnd(end) || !works.hasEnd(other)) {
       return UNKNOWN;
@@ -404,7 +404,7 @@ public final class ShiftBuses {
       return isLive() && promised;
     }
 
-    /** Whether the bus of the line that serves one shift end, or two, is the one of this booking. */
+    /** The other shift end may be NONE, which no booking has. */
     boolean isOfBus(int busLine, int busEnd, int otherEnd) {
       return isLive() && line == busLine && (end == busEnd || end == otherEnd);
     }
@@ -545,7 +545,7 @@ public final class ShiftBuses {
 
     // -- bookings
 
-    /** Answers the booking of a worker, null without one. */
+    /** Null stands for a worker without a booking. */
     Booking bookingOf(int worker) {
       for (Booking booking : bookings) {
         if (booking.isLive() && booking.number == worker) {
@@ -593,7 +593,7 @@ public final class ShiftBuses {
 
     // -- promises
 
-    /** Answers why a seat would not be promised, if all but one (null for nobody) have the bookings they have. */
+    /** Who is asked about is left out (null: nobody), for the own seat is no reason against the own booking. */
     int reason(int line, int end, int stop, Booking leftOut) {
       if (!hasEnd(end)) {
         return NO_SUCH_END;
@@ -619,7 +619,7 @@ public final class ShiftBuses {
       }
     }
 
-    /** Answers the first one who waits behind the last one that was looked at, null without one. */
+    /** The last one is null at first; null is answered when nobody is left to look at. */
     private Booking nextWaiting(Booking last) {
       Booking next = null;
       for (Booking booking : bookings) {
@@ -673,7 +673,6 @@ public final class ShiftBuses {
       return hasEnd(other) ? Math.max(minuteOf(end), minuteOf(other)) : minuteOf(end);
     }
 
-    /** Answers how long behind a shift end the bus that serves it now is at a stop. */
     int minutesBehind(int line, int end, int stop) {
       return startOf(end, partnerOf(line, end)) - minuteOf(end) + stop * setting(RIDE_MINUTES);
     }
@@ -683,7 +682,7 @@ public final class ShiftBuses {
       return behind <= setting(MOST_BEHIND);
     }
 
-    /** Answers the seats that are taken on the stretch that comes to a stop, by all but one (null for nobody). */
+    /** Who gets off before the stop has left a seat on the stretch that comes to it. */
     int takenSeats(int line, int end, int other, int stop, Booking leftOut) {
       int seats = 0;
       for (Booking booking : bookings) {
@@ -737,7 +736,7 @@ public final class ShiftBuses {
 
     // -- a day
 
-    /** Answers whether a rider with a promise can ride by the bus today; who goes by taxi takes no seat from others. */
+    /** Who goes by taxi takes no seat, so those ahead who are late leave theirs to the others. */
     private boolean canRide(Booking rider, int end, int other) {
       int start = startOf(end, other);
       if (!isInTime(rider, start)) {
@@ -830,7 +829,7 @@ public final class ShiftBuses {
       }
     }
 
-    /** Reads the seats that the text asks for; answers the fault of the text, or NO_FAULT. */
+    /** The wishes count only if there is no fault: they are filled in on the way. */
     int read() {
       wishCount = 0;
       int due = END_DUE;

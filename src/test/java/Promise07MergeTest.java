@@ -1,0 +1,122 @@
+/** Promise 7: merge. */
+public final class Promise07MergeTest {
+  private static void mergesTwo() {
+    ShiftBuses x = Due.worksWithEnds(630, 600, 615);
+    x.book(0, 0, 2);
+    x.book(1, 0, 7);
+    Due.due("merge(0, 0, 1)", x.merge(0, 0, 1), 630);
+    Due.due("it is an act", x.count(16), 4);
+    Due.due("the earlier bus waits", x.bus(0, 1, 0), 630);
+    Due.due("the later one starts as before", x.bus(0, 0, 0), 630);
+    Due.due("the other line is not merged", x.bus(1, 1, 1), -5);
+    Due.due("at most two are one", x.merge(0, 2, 1), -4);
+    Due.due("at most two are one", x.merge(0, 0, 2), -4);
+    Due.due("merged already", x.merge(0, 0, 1), -4);
+    Due.due("the other line can be merged", x.merge(1, 2, 1), 615);
+    Due.due("count(4)", x.count(4), 2);
+    Due.due("undo()", x.undo(), 3);
+    Due.due("count(4) after undo()", x.count(4), 1);
+  }
+
+  private static void asFarApartAsTold() {
+    ShiftBuses x = Due.worksWithEnds(600, 630, 661, 0, 1439);
+    Due.due("31 minutes", x.merge(0, 1, 2), -4);
+    Due.due("30 minutes", x.merge(0, 0, 1), 630);
+    x.set(2, 0);
+    Due.due("those that are one stay so", x.bus(0, 0, 1), 1);
+    Due.due("not round midnight", x.merge(0, 3, 4), -4);
+    x.set(2, 120);
+    Due.due("not round midnight", x.merge(0, 4, 3), -4);
+    ShiftBuses y = Due.worksWithEnds(600, 600);
+    y.set(2, 0);
+    Due.due("0 minutes", y.merge(0, 0, 1), 600);
+  }
+
+  private static void seatsOfBoth() {
+    ShiftBuses x = Due.worksWithEnds(600, 610);
+    x.set(1, 2);
+    x.book(0, 0, 1);
+    x.book(1, 0, 1);
+    x.book(1, 0, 9);
+    x.book(1, 0, 9); // waits
+    Due.due("three riders, two seats", x.merge(0, 0, 1), -4);
+    x.takeBack(0);
+    Due.due("riders who wait do not count, all seats may be taken", x.merge(0, 0, 1), 610);
+    ShiftBuses y = Due.worksWithEnds(600, 610);
+    y.set(1, 2);
+    y.book(0, 0, 1);
+    y.book(0, 0, 1);
+    y.set(1, 1);
+    Due.due("more riders than seats on one of both", y.merge(0, 0, 1), -4);
+    Due.due("the other line is free", y.merge(1, 0, 1), 610);
+  }
+
+  private static void nobodyTooLate() {
+    ShiftBuses x = Due.worksWithEnds(600, 630);
+    x.set(3, 50);
+    x.book(0, 0, 5); // 30 to wait and 25 to ride
+    Due.due("55 minutes behind the own end", x.merge(0, 0, 1), -4);
+    x.set(3, 54);
+    Due.due("54 is not enough", x.merge(0, 0, 1), -4);
+    x.set(3, 55);
+    Due.due("55 is", x.merge(0, 0, 1), 630);
+
+    ShiftBuses y = Due.worksWithEnds(600, 630);
+    y.book(1, 0, 9);
+    y.set(3, 44);
+    Due.due("a rider of the later bus who is late already", y.merge(0, 0, 1), -4);
+    ShiftBuses z = Due.worksWithEnds(600, 630);
+    z.set(3, 44);
+    z.book(0, 0, 9);
+    Due.due("who is late and waits does not matter", z.merge(0, 0, 1), 630);
+  }
+
+  /** After merging, who waits is looked at: the seats of one bus serve both ends now. */
+  private static void looksAtThoseWhoWait() {
+    ShiftBuses x = Due.worksWithEnds(600, 610);
+    x.set(2, 5);
+    x.set(1, 1);
+    x.book(0, 0, 1);
+    x.book(0, 0, 2); // 1 waits
+    x.takeBack(0);
+    Due.due("worker(1, 3)", x.worker(1, 3), 1);
+
+    ShiftBuses y = Due.worksWithEnds(600, 610);
+    y.set(1, 2);
+    y.book(0, 0, 1);
+    y.book(0, 0, 2);
+    y.book(1, 0, 3);
+    y.set(1, 1);
+    y.takeBack(0);
+    y.stay(1, 1); // gives its seat up, and waits where it is full
+    Due.due("worker(1, 3)", y.worker(1, 3), 0);
+    Due.due("merge", y.merge(0, 0, 1), 610);
+    Due.due("still full", y.worker(1, 3), 0);
+    Due.due("a booking of the other end is served by the same bus", y.worker(y.book(0, 0, 1), 3), 0);
+  }
+
+  private static void errors() {
+    ShiftBuses x = Due.worksWithEnds(600, 610, 800);
+    String before = Due.allOf(x);
+    int[][] unknown = {{-1, 0, 1}, {2, 0, 1}, {0, -1, 1}, {0, 3, 1}, {0, 0, 3}, {0, 0, -1}, {0, 7, 7}, {2, 0, 0}, {0, -5, -5},
+        {0, 0, -5}, {Integer.MAX_VALUE, 0, 1}, {0, Integer.MIN_VALUE, 1}, {0, 0, Integer.MAX_VALUE}};
+    for (int[] a : unknown) {
+      Due.due("merge(" + a[0] + ", " + a[1] + ", " + a[2] + ")", x.merge(a[0], a[1], a[2]), -1);
+    }
+    Due.due("both are the same", x.merge(0, 1, 1), -2);
+    Due.due("too far apart", x.merge(0, 1, 2), -4);
+    Due.holds("errors change nothing", before.equals(Due.allOf(x)));
+    x.merge(0, 0, 1);
+    Due.due("both the same, merged already", x.merge(0, 1, 1), -2);
+  }
+
+  public static void main(String[] args) {
+    mergesTwo();
+    asFarApartAsTold();
+    seatsOfBoth();
+    nobodyTooLate();
+    looksAtThoseWhoWait();
+    errors();
+    Due.finish();
+  }
+}

@@ -1,0 +1,60 @@
+/** Promise 8: part. */
+public final class Promise08PartTest {
+  private static void partsByEither() {
+    ShiftBuses x = Due.worksWithEnds(600, 610, 620);
+    x.merge(0, 0, 2);
+    Due.due("part by the later one", x.part(0, 2), 0);
+    Due.due("its bus starts at its minute again", x.bus(0, 0, 0), 600);
+    Due.due("bus(0, 2, 1)", x.bus(0, 2, 1), -5);
+    Due.due("count(4)", x.count(4), 0);
+    x.merge(0, 2, 0);
+    Due.due("part by the earlier one", x.part(0, 0), 2);
+    Due.due("it is an act", x.undo(), 3);
+    Due.due("merged again by undo()", x.bus(0, 0, 1), 2);
+    x.part(0, 0);
+    Due.due("it can be merged with another one then", x.merge(0, 1, 0), 610);
+  }
+
+  private static void looksAtThoseWhoWait() {
+    ShiftBuses x = Due.worksWithEnds(600, 610);
+    x.set(1, 1);
+    x.merge(0, 0, 1);
+    x.book(1, 0, 9); // 0 is promised
+    x.book(0, 0, 9); // 1 waits
+    x.book(1, 0, 1); // 2 waits
+    x.part(0, 1);
+    Due.due("the promise stays", x.worker(0, 3), 1);
+    Due.due("the other bus has a seat", x.worker(1, 3), 1);
+    Due.due("the own bus has none", x.worker(2, 3), 0);
+
+    ShiftBuses y = Due.worksWithEnds(600, 630);
+    y.set(3, 50);
+    y.merge(0, 0, 1);
+    y.book(0, 0, 5); // late by the merged bus
+    Due.due("worker(0, 3)", y.worker(0, 3), 0);
+    y.part(0, 0);
+    Due.due("in time by the own bus", y.worker(0, 3), 1);
+  }
+
+  private static void errors() {
+    ShiftBuses x = Due.worksWithEnds(600, 610);
+    x.merge(1, 0, 1);
+    String before = Due.allOf(x);
+    int[][] unknown = {{-1, 0}, {2, 0}, {0, -1}, {0, 2}, {Integer.MIN_VALUE, 0}, {0, Integer.MAX_VALUE}, {1, 10}};
+    for (int[] a : unknown) {
+      Due.due("part(" + a[0] + ", " + a[1] + ")", x.part(a[0], a[1]), -1);
+    }
+    Due.due("not merged on this line", x.part(0, 0), -5);
+    Due.due("not merged on this line", x.part(0, 1), -5);
+    Due.holds("errors and NONE change nothing", before.equals(Due.allOf(x)));
+    Due.due("part(1, 1)", x.part(1, 1), 0);
+    Due.due("parted already", x.part(1, 0), -5);
+  }
+
+  public static void main(String[] args) {
+    partsByEither();
+    looksAtThoseWhoWait();
+    errors();
+    Due.finish();
+  }
+}

@@ -1,0 +1,80 @@
+/** Promise 9: set. */
+public final class Promise09SetTest {
+  private static void ranges() {
+    int[] first = {5, 6, 30, 90};
+    int[] least = {1, 1, 0, 10};
+    int[] most = {20, 30, 120, 300};
+    for (int which = 0; which < 4; which++) {
+      ShiftBuses x = new ShiftBuses();
+      Due.due("below the range of " + which, x.set(which, least[which] - 1), -2);
+      Due.due("above the range of " + which, x.set(which, most[which] + 1), -2);
+      Due.due("as it is", x.set(which, first[which]), -5);
+      Due.due("no state is recorded yet", x.count(16), 0);
+      Due.due("the least of " + which, x.set(which, least[which]), first[which]);
+      Due.due("the most of " + which, x.set(which, most[which]), least[which]);
+      Due.due("it is so already", x.set(which, most[which]), -5);
+      Due.due("count(" + (11 + which) + ")", x.count(11 + which), most[which]);
+      Due.due("it is an act", x.undo(), 1);
+      Due.due("set back by undo()", x.count(11 + which), least[which]);
+    }
+    ShiftBuses x = new ShiftBuses();
+    int[] whichs = {-1, 4, Integer.MIN_VALUE, Integer.MAX_VALUE};
+    for (int which : whichs) {
+      Due.due("set(" + which + ", 10)", x.set(which, 10), -2);
+    }
+    Due.due("set(0, least int)", x.set(0, Integer.MIN_VALUE), -2);
+    Due.due("set(3, greatest int)", x.set(3, Integer.MAX_VALUE), -2);
+    Due.due("count(16)", x.count(16), 0);
+  }
+
+  private static void looksAtThoseWhoWait() {
+    ShiftBuses x = Due.worksWithEnds(600);
+    x.set(1, 1);
+    x.book(0, 0, 4);
+    x.book(0, 0, 4); // 1 waits for a seat
+    x.set(2, 31);
+    Due.due("setting 2 lets nobody in", x.worker(1, 3), 0);
+    x.set(1, 2);
+    Due.due("more seats do", x.worker(1, 3), 1);
+
+    ShiftBuses y = Due.worksWithEnds(600);
+    y.set(3, 20);
+    y.book(0, 0, 5);
+    Due.due("25 minutes are too late", y.worker(0, 3), 0);
+    y.set(0, 4);
+    Due.due("20 are not", y.worker(0, 3), 1);
+
+    ShiftBuses z = Due.worksWithEnds(600);
+    z.set(3, 20);
+    z.book(0, 0, 5);
+    z.set(3, 25);
+    Due.due("a later hour does as well", z.worker(0, 3), 1);
+
+    ShiftBuses all = Due.worksWithEnds(600);
+    all.set(1, 30);
+    all.set(3, 10);
+    for (int w = 0; w < 30; w++) {
+      all.book(0, 0, 9);
+    }
+    Due.due("all thirty are late", all.count(3), 30);
+    all.set(3, 45);
+    Due.due("all thirty have seats", all.count(2), 30);
+  }
+
+  private static void takesNoPromiseBack() {
+    ShiftBuses x = Due.worksWithEnds(600);
+    x.book(0, 0, 4);
+    x.book(0, 0, 9);
+    x.set(1, 1);
+    x.set(3, 10);
+    x.set(0, 20);
+    Due.due("promises are never taken back", x.count(2), 2);
+  }
+
+  public static void main(String[] args) {
+    ranges();
+    looksAtThoseWhoWait();
+    takesNoPromiseBack();
+    Due.finish();
+  }
+}

@@ -1,0 +1,116 @@
+/** Promise 13: undo, and which calls record a state. */
+public final class Promise13UndoTest {
+  private static ShiftBuses busyWorks() {
+    ShiftBuses x = Due.worksWithEnds(600, 620, 900);
+    x.set(1, 2);
+    x.book(0, 0, 3);
+    x.book(0, 0, 5);
+    x.book(0, 0, 1);
+    x.book(1, 1, 9);
+    x.merge(1, 0, 1);
+    x.passDay();
+    x.set(1, 1); // from now on one of the first two goes by taxi
+    return x;
+  }
+
+  /** Does one act; answers what it answered. */
+  private static int act(ShiftBuses x, int which) {
+    switch (which) {
+      case 0: return x.addEnd(700);
+      case 1: return x.book(0, 0, 9);
+      case 2: return x.bookAll();
+      case 3: return x.takeBack(0);
+      case 4: return x.stay(0, 1);
+      case 5: return x.merge(1, 0, 1);
+      case 6: return x.part(1, 0);
+      case 7: return x.set(1, 6);
+      case 8: return x.passDay();
+      case 9: return x.restore();
+      default: return -1;
+    }
+  }
+
+  private static void eachActIsUndone() {
+    for (int which = 0; which < 10; which++) {
+      ShiftBuses x = busyWorks();
+      x.keep();
+      x.passDay();
+      if (which == 5) {
+        x.part(1, 1);
+      }
+      Due.typeText(x, "0b12,2a3");
+      String before = Due.stateOf(x);
+      Due.holds("act " + which + " is done", act(x, which) >= 0);
+      Due.holds("act " + which + " changes the state", !before.equals(Due.stateOf(x)));
+      Due.due("undo() of act " + which, x.undo(), 3);
+      Due.holds("act " + which + " is undone", before.equals(Due.stateOf(x)));
+      Due.due("the text is left alone", x.count(17), 8);
+    }
+  }
+
+  /** What comes in the place of what was undone leaves nothing behind. */
+  private static void otherThingsInItsPlace() {
+    ShiftBuses x = new ShiftBuses();
+    x.addEnd(600);
+    x.book(0, 0, 3);
+    x.undo();
+    x.undo();
+    x.addEnd(700);
+    x.book(0, 1, 4);
+    String before = Due.stateOf(x);
+    Due.due("bus(1, 0, 0)", x.bus(1, 0, 0), 700);
+    Due.due("worker(0, 1)", x.worker(0, 1), 1);
+    x.keep();
+    x.undo();
+    x.undo();
+    x.addEnd(800);
+    x.book(0, 0, 9);
+    x.restore();
+    Due.holds("the snapshot has its own shift end and line", before.equals(Due.stateOf(x)));
+    x.undo();
+    Due.due("bus(0, 0, 0)", x.bus(0, 0, 0), 800);
+    Due.due("worker(0, 1)", x.worker(0, 1), 0);
+  }
+
+  private static void atMostFourStates() {
+    ShiftBuses x = new ShiftBuses();
+    String[] states = new String[8];
+    for (int i = 0; i < 7; i++) {
+      states[i] = Due.stateOf(x);
+      x.addEnd(100 + i);
+      Due.due("count(16)", x.count(16), Math.min(4, i + 1));
+    }
+    for (int left = 3; left >= 0; left--) {
+      Due.due("undo()", x.undo(), left);
+      Due.holds("the latest state is restored", states[3 + left].equals(Due.stateOf(x)));
+    }
+    Due.due("the history is empty", x.undo(), -5);
+    Due.holds("NONE changes nothing", states[3].equals(Due.stateOf(x)));
+    x.addEnd(5);
+    Due.due("it can be filled again", x.undo(), 0);
+  }
+
+  private static void whatIsNoAct() {
+    ShiftBuses x = busyWorks();
+    x.undo();
+    x.undo();
+    x.keep();
+    x.type('0');
+    x.clearText();
+    x.set(1, 2);
+    x.stay(0, 0);
+    x.part(0, 0);
+    x.book(9, 0, 0);
+    x.bookAll();
+    Due.due("count(16)", x.count(16), 2);
+    Due.due("undo() is no act", x.undo(), 1);
+  }
+
+  public static void main(String[] args) {
+    eachActIsUndone();
+    otherThingsInItsPlace();
+    atMostFourStates();
+    whatIsNoAct();
+    Due.finish();
+  }
+}

@@ -1,0 +1,75 @@
+/** Promise 16: worker. */
+public final class Promise16WorkerTest {
+  private static void due(ShiftBuses x, int worker, int... want) {
+    for (int what = 0; what < want.length; what++) {
+      Due.due("worker(" + worker + ", " + what + ")", x.worker(worker, what), want[what]);
+    }
+  }
+
+  private static void allThatIsTold() {
+    ShiftBuses x = Due.worksWithEnds(600, 620);
+    x.set(1, 2);
+    x.book(0, 0, 3); // 0
+    x.book(1, 0, 9); // 1
+    x.book(0, 1, 4); // 2
+    due(x, 0, 0, 0, 3, 1, 15, 0, 0, 0, 0);
+    due(x, 1, 1, 0, 9, 1, 45, 0, 0, 0, 0);
+    due(x, 2, 0, 1, 4, 1, 20, 0, 0, 0, 0);
+    x.merge(0, 1, 0);
+    x.book(0, 0, 2); // 3 waits
+    due(x, 0, 0, 0, 3, 1, 35, 0, 0, 0, 0);
+    due(x, 1, 1, 0, 9, 1, 45, 0, 0, 0, 0);
+    due(x, 2, 0, 1, 4, 1, 20, 0, 0, 0, 0);
+    due(x, 3, 0, 0, 2, 0, 30, 2, 0, 0, 0);
+    x.passDay();
+    x.set(1, 1);
+    x.passDay();
+    x.passDay();
+    due(x, 0, 0, 0, 3, 1, 35, 2, 1, 2, 0);
+    due(x, 1, 1, 0, 9, 1, 45, 2, 3, 0, 0);
+    due(x, 3, 0, 0, 2, 0, 30, 2, 0, 0, 3);
+  }
+
+  private static void reasonsByTheOthers() {
+    ShiftBuses x = Due.worksWithEnds(600);
+    x.set(1, 1);
+    x.book(0, 0, 9);
+    Due.due("the own seat does not count", x.worker(0, 5), 0);
+    x.book(0, 0, 9);
+    Due.due("that of another one does", x.worker(1, 5), 2);
+    x.set(3, 44);
+    Due.due("promised, but late by now", x.worker(0, 5), 3);
+    Due.due("the full bus is asked first", x.worker(1, 5), 2);
+    x.set(3, 45);
+    Due.due("just in time", x.worker(0, 5), 0);
+    ShiftBuses y = Due.worksWithEnds(600);
+    y.set(3, 44);
+    y.book(0, 0, 9);
+    Due.due("who waits is late", y.worker(0, 5), 3);
+  }
+
+  private static void errors() {
+    ShiftBuses x = Due.worksWithEnds(600);
+    x.book(0, 0, 1);
+    x.book(0, 0, 1);
+    x.takeBack(0);
+    int[] unknown = {-1, 0, 2, 30, Integer.MIN_VALUE, Integer.MAX_VALUE};
+    String before = Due.allOf(x);
+    for (int w : unknown) {
+      Due.due("worker(" + w + ", 0)", x.worker(w, 0), -1);
+      Due.due("worker(" + w + ", 9)", x.worker(w, 9), -1);
+    }
+    int[] bad = {-1, 9, Integer.MIN_VALUE, Integer.MAX_VALUE};
+    for (int what : bad) {
+      Due.due("worker(1, " + what + ")", x.worker(1, what), -2);
+    }
+    Due.holds("asking changes nothing", before.equals(Due.allOf(x)));
+  }
+
+  public static void main(String[] args) {
+    allThatIsTold();
+    reasonsByTheOthers();
+    errors();
+    Due.finish();
+  }
+}
