@@ -71,28 +71,17 @@ public final class Promise07MergeTest {
     Due.due("who is late and waits does not matter", z.merge(0, 0, 1), 630);
   }
 
-  /** After merging, who waits is looked at: the seats of one bus serve both ends now. */
-  private static void looksAtThoseWhoWait() {
+  /** A merged bus has no more seats than one, so who waits goes on waiting. */
+  private static void whoWaitsGoesOnWaiting() {
     ShiftBuses x = Due.worksWithEnds(600, 610);
-    x.set(2, 5);
     x.set(1, 1);
     x.book(0, 0, 1);
     x.book(0, 0, 2); // 1 waits
-    x.takeBack(0);
-    Due.due("worker(1, 3)", x.worker(1, 3), 1);
-
-    ShiftBuses y = Due.worksWithEnds(600, 610);
-    y.set(1, 2);
-    y.book(0, 0, 1);
-    y.book(0, 0, 2);
-    y.book(1, 0, 3);
-    y.set(1, 1);
-    y.takeBack(0);
-    y.stay(1, 1); // gives its seat up, and waits where it is full
-    Due.due("worker(1, 3)", y.worker(1, 3), 0);
-    Due.due("merge", y.merge(0, 0, 1), 610);
-    Due.due("still full", y.worker(1, 3), 0);
-    Due.due("a booking of the other end is served by the same bus", y.worker(y.book(0, 0, 1), 3), 0);
+    Due.due("merge(0, 0, 1)", x.merge(0, 0, 1), 610);
+    Due.due("the promise stays", x.worker(0, 3), 1);
+    Due.due("worker(1, 3)", x.worker(1, 3), 0);
+    x.book(1, 0, 1);
+    Due.due("a booking of the other end is served by the same bus", x.worker(2, 3), 0);
   }
 
   private static void errors() {
@@ -115,7 +104,7 @@ public final class Promise07MergeTest {
     asFarApartAsTold();
     seatsOfBoth();
     nobodyTooLate();
-    looksAtThoseWhoWait();
+    whoWaitsGoesOnWaiting();
     errors();
     Due.finish();
   }
