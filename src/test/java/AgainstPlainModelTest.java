@@ -2,14 +2,14 @@ import java.util.Random;
 
 /** Long runs of calls, good and bad ones, on the program and on the plain model; the seeds are fixed. */
 public final class AgainstPlainModelTest {
-  private static final int RUNS = 1500;
-  private static final int CALLS = 512;
+  private static final int RUNS = 6000;
+  private static final int MOST_CALLS_OF_AN_ACT = 50;
   private static final int[] ODD_NUMBERS = {Integer.MIN_VALUE, Integer.MAX_VALUE, -1, -2, -5, 10, 30, 31, 60, 1440, -100};
   private static final int[] MINUTES = {0, 5, 1439, 600, 600, 615, 630, 631, 645, 660, 720, 721};
   private static final String[] GROUPS = {"0a1", "1b99", "2a573", "0b12345", "1a9", "9b1", "0a", "b3", "1a0", "", "0a111111111"};
 
   private final Random random;
-  private final ShiftBuses x = new ShiftBuses();
+  private final CountedBuses x = new CountedBuses();
   private final PlainModel m = new PlainModel();
 
   private AgainstPlainModelTest(long seed) {
@@ -132,49 +132,77 @@ public final class AgainstPlainModelTest {
     int o = end();
     int w = worker();
     int what = pick(0, 18);
-    same("worker", x.worker(w, what), m.worker(w, what));
-    same("bus", x.bus(l, e, what % 7), m.bus(l, e, what % 7));
-    same("taken", x.taken(l, e, st), m.taken(l, e, st));
-    same("why", x.why(l, e, st), m.why(l, e, st));
-    same("spares", x.spares(l, e, o), m.spares(l, e, o));
-    same("byMinute", x.byMinute(o), m.byMinute(o));
-    same("count", x.count(what), m.count(what));
+    switch (random.nextInt(7)) {
+      case 0:
+        same("worker", x.worker(w, what % 10), m.worker(w, what % 10));
+        break;
+      case 1:
+        same("bus", x.bus(l, e, what % 7), m.bus(l, e, what % 7));
+        break;
+      case 2:
+        same("taken", x.taken(l, e, st), m.taken(l, e, st));
+        break;
+      case 3:
+        same("why", x.why(l, e, st), m.why(l, e, st));
+        break;
+      case 4:
+        same("spares", x.spares(l, e, o), m.spares(l, e, o));
+        break;
+      case 5:
+        same("byMinute", x.byMinute(o), m.byMinute(o));
+        break;
+      default:
+        same("count", x.count(what), m.count(what));
+    }
   }
 
-  /** All that can be asked of workers, buses and totals; it changes nothing, so the model tells if it did. */
+  private int callsLeft() {
+    return CountedBuses.MOST_CALLS - x.calls();
+  }
+
+  /** All that can be asked of totals, buses and workers, as far as the calls last; it changes nothing. */
   private void askAll() {
-    for (int what = 0; what <= 17; what++) {
+    for (int what = 0; what <= 17 && callsLeft() > 0; what++) {
       same("count(" + what + ")", x.count(what), m.count(what));
     }
-    for (int w = 0; w < m.count(15); w++) {
-      for (int what = 0; what <= 8; what++) {
+    for (int e = 0; e < m.count(0); e++) {
+      for (int l = 0; l < 2; l++) {
+        for (int what = 0; what <= 5 && callsLeft() > 0; what++) {
+          same("bus(" + l + ", " + e + ", " + what + ")", x.bus(l, e, what), m.bus(l, e, what));
+        }
+      }
+    }
+    for (int w = m.count(15) - 1; w >= 0; w--) {
+      for (int what = 0; what <= 8 && callsLeft() > 0; what++) {
         same("worker(" + w + ", " + what + ")", x.worker(w, what), m.worker(w, what));
       }
     }
     for (int e = 0; e < m.count(0); e++) {
-      for (int l = 0; l < 2; l++) {
-        for (int what = 0; what <= 5; what++) {
-          same("bus(" + l + ", " + e + ", " + what + ")", x.bus(l, e, what), m.bus(l, e, what));
-        }
-        for (int o = 0; o < m.count(0); o++) {
-          same("spares(" + l + ", " + e + ", " + o + ")", x.spares(l, e, o), m.spares(l, e, o));
-        }
+      for (int o = 0; o < m.count(0) && callsLeft() > 0; o++) {
+        same("spares(0, " + e + ", " + o + ")", x.spares(0, e, o), m.spares(0, e, o));
       }
     }
   }
 
+  /** Some runs ask much and do little, some the other way round; all end at the 512th call. */
   private void run() {
     int ends = random.nextInt(5);
     for (int i = 0; i < ends; i++) {
       int minute = MINUTES[random.nextInt(MINUTES.length)];
       same("addEnd", x.addEnd(minute), m.addEnd(minute));
     }
-    for (int call = 0; call < CALLS; call++) {
-      act();
-      ask();
-      if (call % 64 == 63) {
-        askAll();
+    int asksOfTen = random.nextInt(10);
+    int callsOfActs = 50 + random.nextInt(CountedBuses.MOST_CALLS - 50 - MOST_CALLS_OF_AN_ACT);
+    while (x.calls() < callsOfActs) {
+      if (random.nextInt(10) < asksOfTen) {
+        ask();
+      } else {
+        act();
       }
+    }
+    askAll();
+    while (callsLeft() > 0) {
+      ask();
     }
   }
 

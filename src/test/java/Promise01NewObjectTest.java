@@ -1,7 +1,7 @@
 /** Promise 1: a new object is works without shift ends, with the settings that hold at first. */
 public final class Promise01NewObjectTest {
   public static void main(String[] args) {
-    ShiftBuses x = new ShiftBuses();
+    CountedBuses x = new CountedBuses();
     int[] first = {0, 0, 0, 0, 0, 0, 0, 0, 0, 0, 0, 5, 6, 30, 90, 0, 0, 0};
     for (int what = 0; what < first.length; what++) {
       Due.due("count(" + what + ")", x.count(what), first[what]);
@@ -16,7 +16,7 @@ public final class Promise01NewObjectTest {
     Due.due("clearText()", x.clearText(), 0);
     Due.due("bookAll()", x.bookAll(), -100);
 
-    ShiftBuses y = new ShiftBuses();
+    CountedBuses y = new CountedBuses();
     y.addEnd(600);
     Due.due("count(0) of one object", y.count(0), 1);
     Due.due("count(0) of the other object", x.count(0), 0);

@@ -1,7 +1,7 @@
 /** Promise 2: addEnd. */
 public final class Promise02AddEndTest {
   public static void main(String[] args) {
-    ShiftBuses x = new ShiftBuses();
+    CountedBuses x = new CountedBuses();
     Due.due("addEnd(-1)", x.addEnd(-1), -2);
     Due.due("addEnd(1440)", x.addEnd(1440), -2);
     Due.due("addEnd(least int)", x.addEnd(Integer.MIN_VALUE), -2);
@@ -23,7 +23,7 @@ public final class Promise02AddEndTest {
     Due.due("count(0) after undo()", x.count(0), 9);
     Due.due("the number is free again then", x.addEnd(8), 9);
 
-    ShiftBuses y = Due.worksWithEnds(600);
+    CountedBuses y = Due.worksWithEnds(600);
     y.set(1, 1);
     y.book(0, 0, 1);
     y.book(0, 0, 1);

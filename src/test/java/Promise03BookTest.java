@@ -1,7 +1,7 @@
 /** Promise 3: book. */
 public final class Promise03BookTest {
   private static void promisesAndWaits() {
-    ShiftBuses x = Due.worksWithEnds(600, 700);
+    CountedBuses x = Due.worksWithEnds(600, 700);
     x.set(1, 2);
     Due.due("book", x.book(0, 0, 9), 0);
     Due.due("book", x.book(0, 0, 1), 1);
@@ -17,7 +17,7 @@ public final class Promise03BookTest {
   }
 
   private static void lateOnesWait() {
-    ShiftBuses x = Due.worksWithEnds(600);
+    CountedBuses x = Due.worksWithEnds(600);
     x.set(3, 30);
     x.book(0, 0, 6);
     x.book(0, 0, 7);
@@ -26,7 +26,7 @@ public final class Promise03BookTest {
   }
 
   private static void doesNotLookAtOthers() {
-    ShiftBuses x = Due.worksWithEnds(600);
+    CountedBuses x = Due.worksWithEnds(600);
     x.set(2, 120);
     x.set(3, 10);
     x.book(0, 0, 3);
@@ -37,7 +37,7 @@ public final class Promise03BookTest {
   }
 
   private static void errors() {
-    ShiftBuses x = Due.worksWithEnds(600);
+    CountedBuses x = Due.worksWithEnds(600);
     String before = Due.allOf(x);
     int[][] unknown = {{-1, 0, 1}, {1, 0, 1}, {10, 0, 1}, {0, -1, 1}, {0, 2, 1}, {0, 0, 0}, {0, 0, 10},
         {Integer.MIN_VALUE, 0, 1}, {0, Integer.MAX_VALUE, 1}, {0, 0, Integer.MIN_VALUE}};

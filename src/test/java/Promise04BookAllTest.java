@@ -1,21 +1,21 @@
 /** Promise 4: bookAll. */
 public final class Promise04BookAllTest {
-  private static void due(ShiftBuses x, String text, int want) {
+  private static void due(CountedBuses x, String text, int want) {
     Due.typeText(x, text);
-    String before = Due.allOf(x);
+    int bookings = x.count(15);
     Due.due("bookAll() of \"" + text + "\"", x.bookAll(), want);
-    Due.holds("errors change nothing: " + text, want >= 0 || before.equals(Due.allOf(x)));
+    Due.due("all of \"" + text + "\", or none", x.count(15), bookings + Math.max(0, want));
     Due.due("the text stays", x.count(17), text.length());
   }
 
   private static void faults() {
-    ShiftBuses x = Due.worksWithEnds(600, 700);
     String[] faulty = {"", "0", "0a", "0a1,", "0a1,1", "0a1,1b", "a", "00", "0c", "0A1", "0a0", "0aa", "0a,", "0a1a", "0a10",
         "0a1 ", ",0a1", "0a1,,", "0a1,a", "0a1;0a1", "-1a1", "0a1,1b0", " 0a1", "0b1231a4"};
     int[] at = {0, 1, 2, 4, 5, 6, 0, 1, 1, 1, 2, 2, 2, 3, 3, 3, 0, 4, 4, 3, 0, 6, 0, 6};
     for (int i = 0; i < faulty.length; i++) {
-      due(x, faulty[i], -100 - at[i]);
+      due(Due.worksWithEnds(600, 700), faulty[i], -100 - at[i]);
     }
+    CountedBuses x = Due.worksWithEnds(600, 700);
     due(x, "0a1" + (char) 256, -103);
     due(x, "0" + (char) ('a' + 256) + "1", -101);
     due(x, "" + (char) 0x0660, -100);
@@ -24,7 +24,7 @@ public final class Promise04BookAllTest {
   }
 
   private static void booksAll() {
-    ShiftBuses x = Due.worksWithEnds(600, 700);
+    CountedBuses x = Due.worksWithEnds(600, 700);
     due(x, "1b39,0a5", 3);
     int[][] of = {{1, 1, 3, 1}, {1, 1, 9, 1}, {0, 0, 5, 1}};
     for (int w = 0; w < 3; w++) {
@@ -46,7 +46,7 @@ public final class Promise04BookAllTest {
   }
 
   private static void fullOrNot() {
-    ShiftBuses x = Due.worksWithEnds(600);
+    CountedBuses x = Due.worksWithEnds(600);
     String twenty = "0a11111111112222222222";
     due(x, twenty, 20);
     due(x, "0a11111,0b555555", -3);
@@ -54,7 +54,7 @@ public final class Promise04BookAllTest {
     due(x, "0a1", -3);
     due(x, "1a1", -1);
     due(x, "1a1,", -104);
-    ShiftBuses y = Due.worksWithEnds(600);
+    CountedBuses y = Due.worksWithEnds(600);
     due(y, "0a1111111111222222222233333333334", -3);
     due(y, "1a1111111111222222222233333333334", -1);
     due(y, "0a111111111122222222223333333333", 30);

@@ -2,7 +2,7 @@
 public final class Promise05TakeBackTest {
   /** With one seat, each taking back lets the next one in: by minute, end, line, stop, number. */
   private static void orderOfThoseWhoWait() {
-    ShiftBuses x = Due.worksWithEnds(620, 600, 600);
+    CountedBuses x = Due.worksWithEnds(620, 600, 600);
     x.set(1, 1);
     x.set(2, 120);
     x.merge(0, 0, 1);
@@ -20,7 +20,7 @@ public final class Promise05TakeBackTest {
     Due.due("takeBack(2)", x.takeBack(2), 0);
     Due.due("worker(1, 3)", x.worker(1, 3), 1);
 
-    ShiftBuses y = Due.worksWithEnds(600, 600);
+    CountedBuses y = Due.worksWithEnds(600, 600);
     y.set(1, 1);
     y.merge(0, 0, 1);
     y.book(1, 0, 1); // 0 is promised
@@ -31,7 +31,7 @@ public final class Promise05TakeBackTest {
   }
 
   private static void whoWaitsAndGoes() {
-    ShiftBuses x = Due.worksWithEnds(600);
+    CountedBuses x = Due.worksWithEnds(600);
     x.set(1, 1);
     x.book(0, 0, 1);
     x.book(0, 0, 2);
@@ -45,7 +45,7 @@ public final class Promise05TakeBackTest {
   }
 
   private static void lateOnesGoOnWaiting() {
-    ShiftBuses x = Due.worksWithEnds(600);
+    CountedBuses x = Due.worksWithEnds(600);
     x.set(1, 1);
     x.set(3, 20);
     x.book(0, 0, 4); // 0 is promised
@@ -55,7 +55,7 @@ public final class Promise05TakeBackTest {
   }
 
   private static void totalsStay() {
-    ShiftBuses x = Due.worksWithEnds(600);
+    CountedBuses x = Due.worksWithEnds(600);
     x.book(0, 0, 4);
     x.passDay();
     x.takeBack(0);
@@ -84,7 +84,7 @@ public final class Promise05TakeBackTest {
 
   /** Who is looked at first and goes on waiting does not keep the next ones from their seats. */
   private static void allWhoWaitAreLookedAt() {
-    ShiftBuses x = Due.worksWithEnds(600, 700);
+    CountedBuses x = Due.worksWithEnds(600, 700);
     x.set(1, 1);
     x.book(0, 0, 1); // 0 is promised
     x.book(0, 0, 1); // 1 waits where it stays full
@@ -96,7 +96,7 @@ public final class Promise05TakeBackTest {
   }
 
   private static void errors() {
-    ShiftBuses x = Due.worksWithEnds(600);
+    CountedBuses x = Due.worksWithEnds(600);
     x.book(0, 0, 1);
     String before = Due.allOf(x);
     int[] unknown = {-1, 1, 30, -5, Integer.MIN_VALUE, Integer.MAX_VALUE};

@@ -1,7 +1,7 @@
 /** Promise 6: stay. */
 public final class Promise06StayTest {
   private static void changesTheEnd() {
-    ShiftBuses x = Due.worksWithEnds(600, 700);
+    CountedBuses x = Due.worksWithEnds(600, 700);
     x.set(1, 1);
     x.book(0, 0, 3); // 0 is promised
     x.book(0, 0, 2); // 1 waits
@@ -23,7 +23,7 @@ public final class Promise06StayTest {
 
   /** Within a merged bus the worker gives the seat up and another one who waits is looked at first. */
   private static void losesTheSeatOfAMergedBus() {
-    ShiftBuses x = Due.worksWithEnds(600, 610);
+    CountedBuses x = Due.worksWithEnds(600, 610);
     x.set(1, 1);
     x.merge(0, 0, 1);
     x.book(0, 0, 3); // 0 is promised
@@ -31,7 +31,7 @@ public final class Promise06StayTest {
     Due.due("stay(0, 1)", x.stay(0, 1), 0);
     Due.due("worker(1, 3)", x.worker(1, 3), 1);
 
-    ShiftBuses y = Due.worksWithEnds(600, 610);
+    CountedBuses y = Due.worksWithEnds(600, 610);
     y.set(1, 1);
     y.merge(0, 0, 1);
     y.book(1, 0, 3); // 0 is promised
@@ -40,7 +40,7 @@ public final class Promise06StayTest {
   }
 
   private static void rideCountsStay() {
-    ShiftBuses x = Due.worksWithEnds(600, 700);
+    CountedBuses x = Due.worksWithEnds(600, 700);
     x.book(0, 0, 3);
     x.passDay();
     x.stay(0, 1);
@@ -48,7 +48,7 @@ public final class Promise06StayTest {
   }
 
   private static void errors() {
-    ShiftBuses x = Due.worksWithEnds(600, 700);
+    CountedBuses x = Due.worksWithEnds(600, 700);
     x.book(0, 0, 3);
     String before = Due.allOf(x);
     int[][] unknown = {{-1, 0}, {1, 0}, {0, 2}, {0, -1}, {0, 10}, {Integer.MAX_VALUE, 1}, {0, Integer.MIN_VALUE}, {-5, -5}};

@@ -1,7 +1,7 @@
 /** Promise 7: merge. */
 public final class Promise07MergeTest {
   private static void mergesTwo() {
-    ShiftBuses x = Due.worksWithEnds(630, 600, 615);
+    CountedBuses x = Due.worksWithEnds(630, 600, 615);
     x.book(0, 0, 2);
     x.book(1, 0, 7);
     Due.due("merge(0, 0, 1)", x.merge(0, 0, 1), 630);
@@ -19,7 +19,7 @@ public final class Promise07MergeTest {
   }
 
   private static void asFarApartAsTold() {
-    ShiftBuses x = Due.worksWithEnds(600, 630, 661, 0, 1439);
+    CountedBuses x = Due.worksWithEnds(600, 630, 661, 0, 1439);
     Due.due("31 minutes", x.merge(0, 1, 2), -4);
     Due.due("30 minutes", x.merge(0, 0, 1), 630);
     x.set(2, 0);
@@ -27,13 +27,13 @@ public final class Promise07MergeTest {
     Due.due("not round midnight", x.merge(0, 3, 4), -4);
     x.set(2, 120);
     Due.due("not round midnight", x.merge(0, 4, 3), -4);
-    ShiftBuses y = Due.worksWithEnds(600, 600);
+    CountedBuses y = Due.worksWithEnds(600, 600);
     y.set(2, 0);
     Due.due("0 minutes", y.merge(0, 0, 1), 600);
   }
 
   private static void seatsOfBoth() {
-    ShiftBuses x = Due.worksWithEnds(600, 610);
+    CountedBuses x = Due.worksWithEnds(600, 610);
     x.set(1, 2);
     x.book(0, 0, 1);
     x.book(1, 0, 1);
@@ -42,7 +42,7 @@ public final class Promise07MergeTest {
     Due.due("three riders, two seats", x.merge(0, 0, 1), -4);
     x.takeBack(0);
     Due.due("riders who wait do not count, all seats may be taken", x.merge(0, 0, 1), 610);
-    ShiftBuses y = Due.worksWithEnds(600, 610);
+    CountedBuses y = Due.worksWithEnds(600, 610);
     y.set(1, 2);
     y.book(0, 0, 1);
     y.book(0, 0, 1);
@@ -52,7 +52,7 @@ public final class Promise07MergeTest {
   }
 
   private static void nobodyTooLate() {
-    ShiftBuses x = Due.worksWithEnds(600, 630);
+    CountedBuses x = Due.worksWithEnds(600, 630);
     x.set(3, 50);
     x.book(0, 0, 5); // 30 to wait and 25 to ride
     Due.due("55 minutes behind the own end", x.merge(0, 0, 1), -4);
@@ -61,11 +61,11 @@ public final class Promise07MergeTest {
     x.set(3, 55);
     Due.due("55 is", x.merge(0, 0, 1), 630);
 
-    ShiftBuses y = Due.worksWithEnds(600, 630);
+    CountedBuses y = Due.worksWithEnds(600, 630);
     y.book(1, 0, 9);
     y.set(3, 44);
     Due.due("a rider of the later bus who is late already", y.merge(0, 0, 1), -4);
-    ShiftBuses z = Due.worksWithEnds(600, 630);
+    CountedBuses z = Due.worksWithEnds(600, 630);
     z.set(3, 44);
     z.book(0, 0, 9);
     Due.due("who is late and waits does not matter", z.merge(0, 0, 1), 630);
@@ -73,7 +73,7 @@ public final class Promise07MergeTest {
 
   /** A merged bus has no more seats than one, so who waits goes on waiting. */
   private static void whoWaitsGoesOnWaiting() {
-    ShiftBuses x = Due.worksWithEnds(600, 610);
+    CountedBuses x = Due.worksWithEnds(600, 610);
     x.set(1, 1);
     x.book(0, 0, 1);
     x.book(0, 0, 2); // 1 waits
@@ -85,7 +85,7 @@ public final class Promise07MergeTest {
   }
 
   private static void errors() {
-    ShiftBuses x = Due.worksWithEnds(600, 610, 800);
+    CountedBuses x = Due.worksWithEnds(600, 610, 800);
     String before = Due.allOf(x);
     int[][] unknown = {{-1, 0, 1}, {2, 0, 1}, {0, -1, 1}, {0, 3, 1}, {0, 0, 3}, {0, 0, -1}, {0, 7, 7}, {2, 0, 0}, {0, -5, -5},
         {0, 0, -5}, {Integer.MAX_VALUE, 0, 1}, {0, Integer.MIN_VALUE, 1}, {0, 0, Integer.MAX_VALUE}};

@@ -1,7 +1,7 @@
 /** Promise 8: part. */
 public final class Promise08PartTest {
   private static void partsByEither() {
-    ShiftBuses x = Due.worksWithEnds(600, 610, 620);
+    CountedBuses x = Due.worksWithEnds(600, 610, 620);
     x.merge(0, 0, 2);
     Due.due("part by the later one", x.part(0, 2), 0);
     Due.due("its bus starts at its minute again", x.bus(0, 0, 0), 600);
@@ -16,7 +16,7 @@ public final class Promise08PartTest {
   }
 
   private static void looksAtThoseWhoWait() {
-    ShiftBuses x = Due.worksWithEnds(600, 610);
+    CountedBuses x = Due.worksWithEnds(600, 610);
     x.set(1, 1);
     x.merge(0, 0, 1);
     x.book(1, 0, 9); // 0 is promised
@@ -27,7 +27,7 @@ public final class Promise08PartTest {
     Due.due("the other bus has a seat", x.worker(1, 3), 1);
     Due.due("the own bus has none", x.worker(2, 3), 0);
 
-    ShiftBuses y = Due.worksWithEnds(600, 630);
+    CountedBuses y = Due.worksWithEnds(600, 630);
     y.set(3, 50);
     y.merge(0, 0, 1);
     y.book(0, 0, 5); // late by the merged bus
@@ -37,7 +37,7 @@ public final class Promise08PartTest {
   }
 
   private static void errors() {
-    ShiftBuses x = Due.worksWithEnds(600, 610);
+    CountedBuses x = Due.worksWithEnds(600, 610);
     x.merge(1, 0, 1);
     String before = Due.allOf(x);
     int[][] unknown = {{-1, 0}, {2, 0}, {0, -1}, {0, 2}, {Integer.MIN_VALUE, 0}, {0, Integer.MAX_VALUE}, {1, 10}};

@@ -5,7 +5,7 @@ public final class Promise09SetTest {
     int[] least = {1, 1, 0, 10};
     int[] most = {20, 30, 120, 300};
     for (int which = 0; which < 4; which++) {
-      ShiftBuses x = new ShiftBuses();
+      CountedBuses x = new CountedBuses();
       Due.due("below the range of " + which, x.set(which, least[which] - 1), -2);
       Due.due("above the range of " + which, x.set(which, most[which] + 1), -2);
       Due.due("as it is", x.set(which, first[which]), -5);
@@ -17,7 +17,7 @@ public final class Promise09SetTest {
       Due.due("it is an act", x.undo(), 1);
       Due.due("set back by undo()", x.count(11 + which), least[which]);
     }
-    ShiftBuses x = new ShiftBuses();
+    CountedBuses x = new CountedBuses();
     int[] whichs = {-1, 4, Integer.MIN_VALUE, Integer.MAX_VALUE};
     for (int which : whichs) {
       Due.due("set(" + which + ", 10)", x.set(which, 10), -2);
@@ -28,7 +28,7 @@ public final class Promise09SetTest {
   }
 
   private static void looksAtThoseWhoWait() {
-    ShiftBuses x = Due.worksWithEnds(600);
+    CountedBuses x = Due.worksWithEnds(600);
     x.set(1, 1);
     x.book(0, 0, 4);
     x.book(0, 0, 4); // 1 waits for a seat
@@ -37,20 +37,20 @@ public final class Promise09SetTest {
     x.set(1, 2);
     Due.due("more seats do", x.worker(1, 3), 1);
 
-    ShiftBuses y = Due.worksWithEnds(600);
+    CountedBuses y = Due.worksWithEnds(600);
     y.set(3, 20);
     y.book(0, 0, 5);
     Due.due("25 minutes are too late", y.worker(0, 3), 0);
     y.set(0, 4);
     Due.due("20 are not", y.worker(0, 3), 1);
 
-    ShiftBuses z = Due.worksWithEnds(600);
+    CountedBuses z = Due.worksWithEnds(600);
     z.set(3, 20);
     z.book(0, 0, 5);
     z.set(3, 25);
     Due.due("a later hour does as well", z.worker(0, 3), 1);
 
-    ShiftBuses all = Due.worksWithEnds(600);
+    CountedBuses all = Due.worksWithEnds(600);
     all.set(1, 30);
     all.set(3, 10);
     for (int w = 0; w < 30; w++) {
@@ -62,7 +62,7 @@ public final class Promise09SetTest {
   }
 
   private static void takesNoPromiseBack() {
-    ShiftBuses x = Due.worksWithEnds(600);
+    CountedBuses x = Due.worksWithEnds(600);
     x.book(0, 0, 4);
     x.book(0, 0, 9);
     x.set(1, 1);

@@ -1,19 +1,19 @@
 /** Promise 10: passDay. */
 public final class Promise10PassDayTest {
-  private static void dueOfWorkers(ShiftBuses x, int what, int... want) {
+  private static void dueOfWorkers(CountedBuses x, int what, int... want) {
     for (int w = 0; w < want.length; w++) {
       Due.due("worker(" + w + ", " + what + ")", x.worker(w, what), want[w]);
     }
   }
 
-  private static void dueOfCounts(ShiftBuses x, int... want) {
+  private static void dueOfCounts(CountedBuses x, int... want) {
     for (int i = 0; i < want.length; i++) {
       Due.due("count(" + (5 + i) + ")", x.count(5 + i), want[i]);
     }
   }
 
   private static void emptyDay() {
-    ShiftBuses x = new ShiftBuses();
+    CountedBuses x = new CountedBuses();
     Due.due("a day without shift ends", x.passDay(), 0);
     dueOfCounts(x, 1, 0, 0, 0, 0, 0);
     Due.due("it is an act", x.undo(), 0);
@@ -22,7 +22,7 @@ public final class Promise10PassDayTest {
 
   /** Three riders by farther stops first, of the same stop by number, but two seats by now. */
   private static void fewerSeatsByNow() {
-    ShiftBuses x = Due.worksWithEnds(600);
+    CountedBuses x = Due.worksWithEnds(600);
     x.book(0, 0, 3);
     x.book(0, 0, 7);
     x.book(0, 0, 3);
@@ -43,7 +43,7 @@ public final class Promise10PassDayTest {
 
   /** The farthest ones are late by now: they go by taxi and leave their seats to those behind them. */
   private static void lateByNow() {
-    ShiftBuses x = Due.worksWithEnds(600);
+    CountedBuses x = Due.worksWithEnds(600);
     x.book(0, 0, 9);
     x.book(0, 0, 8);
     x.book(0, 0, 2);
@@ -55,13 +55,13 @@ public final class Promise10PassDayTest {
   }
 
   private static void busThatDoesNotGo() {
-    ShiftBuses x = Due.worksWithEnds(600);
+    CountedBuses x = Due.worksWithEnds(600);
     x.book(0, 0, 3);
     x.set(3, 10);
     Due.due("bus(0, 0, 5)", x.bus(0, 0, 5), 0);
     Due.due("passDay()", x.passDay(), 1);
     dueOfCounts(x, 1, 0, 1, 0, 0, 17);
-    ShiftBuses y = Due.worksWithEnds(600);
+    CountedBuses y = Due.worksWithEnds(600);
     y.book(0, 0, 3);
     y.set(3, 15);
     Due.due("just in time", y.passDay(), 0);
@@ -69,7 +69,7 @@ public final class Promise10PassDayTest {
   }
 
   private static void mergedBusGoesOnce() {
-    ShiftBuses x = Due.worksWithEnds(600, 620);
+    CountedBuses x = Due.worksWithEnds(600, 620);
     x.book(0, 0, 4);
     x.book(1, 0, 2);
     x.merge(0, 0, 1);
@@ -83,7 +83,7 @@ public final class Promise10PassDayTest {
     x.part(0, 0);
     Due.due("passDay()", x.passDay(), 0);
     dueOfCounts(x, 3, 5, 1, 0, 52 + 28 + 24, 20);
-    ShiftBuses y = Due.worksWithEnds(600, 600);
+    CountedBuses y = Due.worksWithEnds(600, 600);
     y.book(0, 1, 1);
     y.merge(1, 1, 0);
     y.passDay();
@@ -92,7 +92,7 @@ public final class Promise10PassDayTest {
 
   /** Of a merged bus all share the seats, by farther stops, whatever the shift end. */
   private static void mergedBusShareSeats() {
-    ShiftBuses x = Due.worksWithEnds(600, 620);
+    CountedBuses x = Due.worksWithEnds(600, 620);
     x.book(0, 0, 4);
     x.book(1, 0, 5);
     x.book(0, 0, 5);
@@ -104,7 +104,7 @@ public final class Promise10PassDayTest {
   }
 
   private static void doesNotLook() {
-    ShiftBuses x = Due.worksWithEnds(600);
+    CountedBuses x = Due.worksWithEnds(600);
     x.set(1, 1);
     x.book(0, 0, 9);
     x.book(0, 0, 1);

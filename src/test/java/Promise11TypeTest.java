@@ -1,7 +1,7 @@
 /** Promise 11: type. */
 public final class Promise11TypeTest {
   public static void main(String[] args) {
-    ShiftBuses x = Due.worksWithEnds(600);
+    CountedBuses x = Due.worksWithEnds(600);
     char[] any = {'0', 'a', (char) 0, (char) 255, (char) 65535, ' ', '\n'};
     for (int i = 0; i < any.length; i++) {
       Due.due("type of " + (int) any[i], x.type(any[i]), i + 1);
@@ -16,7 +16,7 @@ public final class Promise11TypeTest {
     Due.due("undo()", x.undo(), 0);
     Due.due("undo() leaves the text", x.count(17), 60);
 
-    ShiftBuses y = Due.worksWithEnds(600);
+    CountedBuses y = Due.worksWithEnds(600);
     Due.typeText(y, "0a1");
     y.type('2');
     Due.due("what was typed is what is booked", y.bookAll(), 2);

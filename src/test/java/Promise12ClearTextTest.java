@@ -1,7 +1,7 @@
 /** Promise 12: clearText. */
 public final class Promise12ClearTextTest {
   public static void main(String[] args) {
-    ShiftBuses x = Due.worksWithEnds(600);
+    CountedBuses x = Due.worksWithEnds(600);
     Due.due("clearText() of an empty text", x.clearText(), 0);
     Due.typeText(x, "0a123");
     Due.due("clearText()", x.clearText(), 5);

@@ -1,7 +1,7 @@
 /** Promise 13: undo, and which calls record a state. */
 public final class Promise13UndoTest {
-  private static ShiftBuses busyWorks() {
-    ShiftBuses x = Due.worksWithEnds(600, 620, 900);
+  private static CountedBuses busyWorks() {
+    CountedBuses x = Due.worksWithEnds(600, 620, 900);
     x.set(1, 2);
     x.book(0, 0, 3);
     x.book(0, 0, 5);
@@ -14,7 +14,7 @@ public final class Promise13UndoTest {
   }
 
   /** Does one act; answers what it answered. */
-  private static int act(ShiftBuses x, int which) {
+  private static int act(CountedBuses x, int which) {
     switch (which) {
       case 0: return x.addEnd(700);
       case 1: return x.book(0, 0, 9);
@@ -32,7 +32,7 @@ public final class Promise13UndoTest {
 
   private static void eachActIsUndone() {
     for (int which = 0; which < 10; which++) {
-      ShiftBuses x = busyWorks();
+      CountedBuses x = busyWorks();
       x.keep();
       x.passDay();
       if (which == 5) {
@@ -50,7 +50,7 @@ public final class Promise13UndoTest {
 
   /** What comes in the place of what was undone leaves nothing behind. */
   private static void otherThingsInItsPlace() {
-    ShiftBuses x = new ShiftBuses();
+    CountedBuses x = new CountedBuses();
     x.addEnd(600);
     x.book(0, 0, 3);
     x.undo();
@@ -73,7 +73,7 @@ public final class Promise13UndoTest {
   }
 
   private static void atMostFourStates() {
-    ShiftBuses x = new ShiftBuses();
+    CountedBuses x = new CountedBuses();
     String[] states = new String[8];
     for (int i = 0; i < 7; i++) {
       states[i] = Due.stateOf(x);
@@ -91,7 +91,7 @@ public final class Promise13UndoTest {
   }
 
   private static void whatIsNoAct() {
-    ShiftBuses x = busyWorks();
+    CountedBuses x = busyWorks();
     x.undo();
     x.undo();
     x.keep();

@@ -1,7 +1,7 @@
 /** Promise 14: keep. */
 public final class Promise14KeepTest {
   public static void main(String[] args) {
-    ShiftBuses x = new ShiftBuses();
+    CountedBuses x = new CountedBuses();
     Due.due("keep() of new works", x.keep(), 0);
     Due.due("it is no act", x.count(16), 0);
     x.addEnd(600);

@@ -1,7 +1,7 @@
 /** Promise 15: restore. */
 public final class Promise15RestoreTest {
   public static void main(String[] args) {
-    ShiftBuses x = Due.worksWithEnds(600, 620);
+    CountedBuses x = Due.worksWithEnds(600, 620);
     String before = Due.allOf(x);
     Due.due("restore() without a snapshot", x.restore(), -5);
     Due.holds("NONE changes nothing", before.equals(Due.allOf(x)));
@@ -32,7 +32,7 @@ public final class Promise15RestoreTest {
     Due.holds("all is as it was kept", kept.equals(Due.stateOf(x)));
     Due.due("numbers go on as they were then", x.book(0, 0, 1), 2);
 
-    ShiftBuses y = new ShiftBuses();
+    CountedBuses y = new CountedBuses();
     y.keep();
     y.addEnd(600);
     y.book(0, 0, 1);

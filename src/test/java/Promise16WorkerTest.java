@@ -1,13 +1,13 @@
 /** Promise 16: worker. */
 public final class Promise16WorkerTest {
-  private static void due(ShiftBuses x, int worker, int... want) {
+  private static void due(CountedBuses x, int worker, int... want) {
     for (int what = 0; what < want.length; what++) {
       Due.due("worker(" + worker + ", " + what + ")", x.worker(worker, what), want[what]);
     }
   }
 
   private static void allThatIsTold() {
-    ShiftBuses x = Due.worksWithEnds(600, 620);
+    CountedBuses x = Due.worksWithEnds(600, 620);
     x.set(1, 2);
     x.book(0, 0, 3); // 0
     x.book(1, 0, 9); // 1
@@ -31,7 +31,7 @@ public final class Promise16WorkerTest {
   }
 
   private static void reasonsByTheOthers() {
-    ShiftBuses x = Due.worksWithEnds(600);
+    CountedBuses x = Due.worksWithEnds(600);
     x.set(1, 1);
     x.book(0, 0, 9);
     Due.due("the own seat does not count", x.worker(0, 5), 0);
@@ -42,14 +42,14 @@ public final class Promise16WorkerTest {
     Due.due("the full bus is asked first", x.worker(1, 5), 2);
     x.set(3, 45);
     Due.due("just in time", x.worker(0, 5), 0);
-    ShiftBuses y = Due.worksWithEnds(600);
+    CountedBuses y = Due.worksWithEnds(600);
     y.set(3, 44);
     y.book(0, 0, 9);
     Due.due("who waits is late", y.worker(0, 5), 3);
   }
 
   private static void errors() {
-    ShiftBuses x = Due.worksWithEnds(600);
+    CountedBuses x = Due.worksWithEnds(600);
     x.book(0, 0, 1);
     x.book(0, 0, 1);
     x.takeBack(0);

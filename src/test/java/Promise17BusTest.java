@@ -1,13 +1,13 @@
 /** Promise 17: bus. */
 public final class Promise17BusTest {
-  private static void due(ShiftBuses x, int line, int end, int... want) {
+  private static void due(CountedBuses x, int line, int end, int... want) {
     for (int what = 0; what < want.length; what++) {
       Due.due("bus(" + line + ", " + end + ", " + what + ")", x.bus(line, end, what), want[what]);
     }
   }
 
   private static void allThatIsTold() {
-    ShiftBuses x = Due.worksWithEnds(620, 600, 900);
+    CountedBuses x = Due.worksWithEnds(620, 600, 900);
     x.set(1, 2);
     x.book(0, 0, 3);
     x.book(1, 0, 7);
@@ -28,7 +28,7 @@ public final class Promise17BusTest {
 
   /** What it costs today is told by those who ride, not by all who have promises. */
   private static void costOfThoseWhoRide() {
-    ShiftBuses x = Due.worksWithEnds(600);
+    CountedBuses x = Due.worksWithEnds(600);
     x.book(0, 0, 3);
     x.book(0, 0, 8);
     x.set(3, 20);
@@ -41,7 +41,7 @@ public final class Promise17BusTest {
   }
 
   private static void errors() {
-    ShiftBuses x = Due.worksWithEnds(600);
+    CountedBuses x = Due.worksWithEnds(600);
     String before = Due.allOf(x);
     int[][] unknown = {{-1, 0, 0}, {2, 0, 0}, {0, -1, 0}, {0, 1, 0}, {0, 10, 9}, {0, -5, 0}, {Integer.MIN_VALUE, 0, 0},
         {0, Integer.MAX_VALUE, -1}};

@@ -1,13 +1,13 @@
 /** Promise 18: taken. */
 public final class Promise18TakenTest {
-  private static void due(ShiftBuses x, int line, int end, int... want) {
+  private static void due(CountedBuses x, int line, int end, int... want) {
     for (int stop = 1; stop <= want.length; stop++) {
       Due.due("taken(" + line + ", " + end + ", " + stop + ")", x.taken(line, end, stop), want[stop - 1]);
     }
   }
 
   public static void main(String[] args) {
-    ShiftBuses x = Due.worksWithEnds(600, 620);
+    CountedBuses x = Due.worksWithEnds(600, 620);
     x.set(1, 3);
     x.book(0, 0, 3);
     x.book(0, 0, 5);

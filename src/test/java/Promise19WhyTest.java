@@ -1,7 +1,7 @@
 /** Promise 19: why. */
 public final class Promise19WhyTest {
   public static void main(String[] args) {
-    ShiftBuses x = Due.worksWithEnds(600, 620);
+    CountedBuses x = Due.worksWithEnds(600, 620);
     x.set(1, 1);
     x.set(3, 30);
     Due.due("it would be promised", x.why(0, 0, 6), 0);

@@ -1,7 +1,7 @@
 /** Promise 20: spares. */
 public final class Promise20SparesTest {
   private static void whatItSpares() {
-    ShiftBuses x = Due.worksWithEnds(600, 620);
+    CountedBuses x = Due.worksWithEnds(600, 620);
     Due.due("two empty buses", x.spares(0, 0, 1), 0);
     x.book(0, 0, 4);
     Due.due("one of both is empty", x.spares(0, 0, 1), 0);
@@ -17,7 +17,7 @@ public final class Promise20SparesTest {
   }
 
   private static void errors() {
-    ShiftBuses x = Due.worksWithEnds(600, 620, 631, 651);
+    CountedBuses x = Due.worksWithEnds(600, 620, 631, 651);
     x.book(0, 0, 1);
     String before = Due.allOf(x);
     int[][] unknown = {{-1, 0, 1}, {2, 0, 1}, {0, -1, 1}, {0, 4, 1}, {0, 0, 4}, {0, 0, -1}, {0, 9, 9}, {2, 0, 0},

@@ -1,7 +1,7 @@
 /** Promise 21: byMinute. */
 public final class Promise21ByMinuteTest {
   public static void main(String[] args) {
-    ShiftBuses x = Due.worksWithEnds(700, 0, 1439, 700, 5, 700, 0, 1, 1438, 2);
+    CountedBuses x = Due.worksWithEnds(700, 0, 1439, 700, 5, 700, 0, 1, 1438, 2);
     int[] order = {1, 6, 7, 9, 4, 0, 3, 5, 8, 2};
     String before = Due.allOf(x);
     for (int rank = 0; rank < 10; rank++) {
@@ -13,7 +13,7 @@ public final class Promise21ByMinuteTest {
     Due.due("byMinute(least int)", x.byMinute(Integer.MIN_VALUE), -2);
     Due.holds("asking changes nothing", before.equals(Due.allOf(x)));
 
-    ShiftBuses y = Due.worksWithEnds(600, 610);
+    CountedBuses y = Due.worksWithEnds(600, 610);
     Due.due("byMinute(2)", y.byMinute(2), -5);
     y.merge(0, 0, 1);
     Due.due("merging does not matter", y.byMinute(0), 0);

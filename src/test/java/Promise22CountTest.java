@@ -1,7 +1,7 @@
 /** Promise 22: count. */
 public final class Promise22CountTest {
   public static void main(String[] args) {
-    ShiftBuses x = Due.worksWithEnds(600, 620, 640, 660);
+    CountedBuses x = Due.worksWithEnds(600, 620, 640, 660);
     x.set(0, 6);
     x.set(1, 3);
     x.set(2, 25);
