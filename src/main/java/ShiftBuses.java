@@ -225,7 +225,7 @@ public final class ShiftBuses {
       case 3:
         return booking.promised ? 1 : 0;
       case 4:
-        return works.minutesBehind(booking.line, booking.end, booking.stop);
+        return works.minutesBehind(booking.end, booking.stop, works.startOfBusOf(booking));
       case 5:
         return works.reason(booking.line, booking.end, booking.stop, booking);
       case 6:
@@ -598,10 +598,11 @@ public final class ShiftBuses {
       if (!hasEnd(end)) {
         return NO_SUCH_END;
       }
-      if (takenSeats(line, end, partnerOf(line, end), FULLEST_STRETCH, leftOut) >= setting(SEATS)) {
+      int other = partnerOf(line, end);
+      if (takenSeats(line, end, other, FULLEST_STRETCH, leftOut) >= setting(SEATS)) {
         return NO_SEAT_LEFT;
       }
-      return minutesBehind(line, end, stop) > setting(MOST_BEHIND) ? TOO_LATE : CAN_BE_PROMISED;
+      return isInTime(end, stop, startOf(end, other)) ? CAN_BE_PROMISED : TOO_LATE;
     }
 
     /** Each promise takes a seat from those who come later, so the order tells who gets it. */
@@ -673,13 +674,17 @@ public final class ShiftBuses {
       return hasEnd(other) ? Math.max(minuteOf(end), minuteOf(other)) : minuteOf(end);
     }
 
-    int minutesBehind(int line, int end, int stop) {
-      return startOf(end, partnerOf(line, end)) - minuteOf(end) + stop * setting(RIDE_MINUTES);
+    int startOfBusOf(Booking booking) {
+      return startOf(booking.end, partnerOf(booking.line, booking.end));
     }
 
-    private boolean isInTime(Booking booking, int start) {
-      int behind = start - minuteOf(booking.end) + booking.stop * setting(RIDE_MINUTES);
-      return behind <= setting(MOST_BEHIND);
+    /** The start is that of the bus, which may be later than the own shift end. */
+    int minutesBehind(int end, int stop, int start) {
+      return start - minuteOf(end) + stop * setting(RIDE_MINUTES);
+    }
+
+    private boolean isInTime(int end, int stop, int start) {
+      return minutesBehind(end, stop, start) <= setting(MOST_BEHIND);
     }
 
     /** Who gets off before the stop has left a seat on the stretch that comes to it. */
@@ -727,7 +732,7 @@ public final class ShiftBuses {
     private boolean isInTimeForAll(int line, int end, int other) {
       int start = startOf(end, other);
       for (Booking booking : bookings) {
-        if (booking.isRider() && booking.isOfBus(line, end, other) && !isInTime(booking, start)) {
+        if (booking.isRider() && booking.isOfBus(line, end, other) && !isInTime(booking.end, booking.stop, start)) {
           return false;
         }
       }
@@ -739,12 +744,12 @@ public final class ShiftBuses {
     /** Who goes by taxi takes no seat, so those ahead who are late leave theirs to the others. */
     private boolean canRide(Booking rider, int end, int other) {
       int start = startOf(end, other);
-      if (!isInTime(rider, start)) {
+      if (!isInTime(rider.end, rider.stop, start)) {
         return false;
       }
       int ahead = 0;
       for (Booking booking : bookings) {
-        if (booking.isRider() && booking.isOfBus(rider.line, end, other) && isInTime(booking, start)
+        if (booking.isRider() && booking.isOfBus(rider.line, end, other) && isInTime(booking.end, booking.stop, start)
             && booking.getsSeatAheadOf(rider)) {
           ahead++;
         }

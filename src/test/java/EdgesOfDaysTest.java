@@ -312,6 +312,47 @@ public final class EdgesOfDaysTest {
     }
   }
 
+  /** Who takes the place of a booking that was taken back has not ridden yet. */
+  private static void newWorkersHaveNotRidden() {
+    Due.sentence("6 for how often the worker rode home by bus, 7 for how often by taxi, 8 for how often the worker walked");
+    CountedBuses x = Due.worksWithEnds(600);
+    for (int w = 0; w < 30; w++) {
+      x.book(0, 0, 9);
+    }
+    x.set(1, 3);
+    x.passDay(); // 0 to 2 by bus, 3 to 5 by taxi, the others walk
+    x.passDay();
+    due("after two days", x, BY_BUS, 2, 2, 2, 0, 0, 0, 0);
+    due("after two days", x, BY_TAXI, 0, 0, 0, 2, 2, 2, 0);
+    due("after two days", x, WALKED, 0, 0, 0, 0, 0, 0, 2);
+    for (int w = 0; w < 30; w += 2) {
+      x.takeBack(w);
+    }
+    for (int w = 30; w < 45; w++) {
+      Due.due("book", x.book(0, 0, 9), w);
+      for (int how = BY_BUS; how <= WALKED; how++) {
+        Due.due("worker(" + w + ", " + how + ")", x.worker(w, how), 0);
+      }
+    }
+    Due.due("who stays has ridden", x.worker(1, BY_BUS), 2);
+    Due.due("who stays has ridden", x.worker(3, BY_TAXI), 2);
+    Due.due("who stays has walked", x.worker(7, WALKED), 2);
+  }
+
+  private static void changingTheEndKeepsTheRides() {
+    Due.sentence("6 for how often the worker rode home by bus, 7 for how often by taxi, 8 for how often the worker walked");
+    CountedBuses x = Due.worksWithEnds(600, 700);
+    x.book(0, 0, 9);
+    x.passDay();
+    x.set(3, 10);
+    x.passDay();
+    Due.due("stay", x.stay(0, 1), 0);
+    x.passDay();
+    for (int how = BY_BUS; how <= WALKED; how++) {
+      Due.due("worker(0, " + how + ")", x.worker(0, how), 1);
+    }
+  }
+
   private static void totalsAreOfAllDays() {
     Due.sentence("5 for days so far, 6 for rides by bus so far, 7 for those by taxi, 8 for walks so far, 9 for what buses cost"
         + " so far, 10 for what taxis cost so far");
@@ -347,6 +388,8 @@ public final class EdgesOfDaysTest {
     costOfATaxi();
     bookingsStay();
     eachBusOnce();
+    newWorkersHaveNotRidden();
+    changingTheEndKeepsTheRides();
     totalsAreOfAllDays();
     Due.finish();
   }

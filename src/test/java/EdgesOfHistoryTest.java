@@ -213,6 +213,32 @@ public final class EdgesOfHistoryTest {
     Due.due("its minute", x.bus(0, 0, 0), 700);
   }
 
+  /** What comes in the place of what was undone does not change what was kept of it. */
+  private static void anotherOneInItsPlace() {
+    Due.sentence("Restores the state of the snapshot, which stays.");
+    CountedBuses x = Due.worksWithEnds(600, 620);
+    x.book(0, 0, 3);
+    x.merge(1, 0, 1);
+    x.keep();
+    for (int i = 0; i < 4; i++) {
+      x.undo();
+    }
+    Due.due("another minute", x.addEnd(700), 0);
+    Due.due("another line and stop", x.book(0, 1, 9), 0);
+    Due.due("restore", x.restore(), 1);
+    int[] told = {x.bus(0, 0, 0), x.bus(0, 1, 0), x.bus(1, 0, 1), x.worker(0, 1), x.worker(0, 2)};
+    int[] due = {600, 620, 1, 0, 3};
+    for (int i = 0; i < due.length; i++) {
+      Due.due("restored, part " + i, told[i], due[i]);
+    }
+    Due.due("undo", x.undo(), 2);
+    int[] undone = {x.bus(0, 0, 0), x.bus(0, 1, 0), x.bus(1, 0, 1), x.worker(0, 1), x.worker(0, 2)};
+    int[] dueThen = {700, -1, -5, 1, 9};
+    for (int i = 0; i < dueThen.length; i++) {
+      Due.due("undone, part " + i, undone[i], dueThen[i]);
+    }
+  }
+
   // -- the snapshot
 
   private static void oneSnapshot() {
@@ -369,6 +395,7 @@ public final class EdgesOfHistoryTest {
     atMostFourStates();
     filledAgain();
     undoneAndDoneAnew();
+    anotherOneInItsPlace();
     oneSnapshot();
     emptySnapshotIsOne();
     snapshotIsACopy();

@@ -292,6 +292,25 @@ public final class EdgesOfSeatsTest {
     }
   }
 
+  /** As many as there can be: thirty who wait are looked at, the last one too. */
+  private static void thirtyWhoWait() {
+    Due.sentence("all who wait are looked at once, one after the other");
+    for (int seats = 28; seats <= 30; seats++) {
+      CountedBuses x = Due.worksWithEnds(600);
+      x.set(1, seats);
+      x.set(3, 10);
+      for (int w = 0; w < 30; w++) {
+        x.book(0, 0, 9);
+      }
+      Due.due("all wait", x.count(3), 30);
+      x.set(3, 45);
+      Due.due("promises of " + seats + " seats", x.count(2), seats);
+      for (int w = 27; w < 30; w++) {
+        Due.due("worker " + w + " of " + seats + " seats", x.worker(w, 3), w < seats ? 1 : 0);
+      }
+    }
+  }
+
   // -- the order
 
   /** The bus of both shift ends has one seat, taken by worker 0; then these wait, and the seat is given up. */
@@ -478,6 +497,7 @@ public final class EdgesOfSeatsTest {
     whenTheyAreLookedAt();
     whatLetsNobodyIn();
     allWhoWait();
+    thirtyWhoWait();
     byRisingMinutes();
     byNumbersOfShiftEnds();
     byNearerStops();

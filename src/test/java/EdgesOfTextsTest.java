@@ -185,6 +185,23 @@ public final class EdgesOfTextsTest {
     }
   }
 
+  /** A text that was read before leaves nothing behind, be it longer or shorter. */
+  private static void eachTextAnew() {
+    Due.sentence("Books the seats of the text, which stays, one after the other; all of them, or none.");
+    CountedBuses x = Due.worksWithEnds(600);
+    due(x, "0a1,9b2,0a3", -1);
+    due(x, "0a4", 1);
+    due(x, "0a5,0b67,9", -110);
+    due(x, "0b8", 1);
+    due(x, "0b123456789123456789123456789123", -3);
+    due(x, "0a91", 2);
+    int[][] of = {{0, 4}, {1, 8}, {0, 9}, {0, 1}};
+    for (int w = 0; w < of.length; w++) {
+      Due.due("the line of " + w, x.worker(w, 1), of[w][0]);
+      Due.due("the stop of " + w, x.worker(w, 2), of[w][1]);
+    }
+  }
+
   private static void moreThanThirty() {
     Due.sentence("FULL if more than 30 would have bookings");
     for (int had = 27; had <= 30; had++) {
@@ -263,6 +280,7 @@ public final class EdgesOfTextsTest {
     linesOfTheText();
     howManyTheTextHas();
     shiftEndsOfTheText();
+    eachTextAnew();
     moreThanThirty();
     oneAfterTheOther();
     theTextStays();

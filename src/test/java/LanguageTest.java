@@ -42,20 +42,23 @@ public final class LanguageTest {
       methods++;
       String parameters = heads.group(2);
       Due.holds(name + " has at most seven parameters", parameters.split(",").length <= MOST_PARAMETERS);
-      Due.holds(name + " is short", linesOfBody(code, heads.end()) <= MOST_LINES);
+      String body = bodyFrom(code, heads.end());
+      Due.holds(name + " is short", body.split("\n").length <= MOST_LINES);
+      boolean isConstructor = Character.isUpperCase(name.charAt(0));
+      Due.holds(name + " makes no object, for all rows are made once", isConstructor || !body.matches("(?s).*\\bnew\\b.*"));
     }
     Due.holds("methods were found: " + methods, methods > 60);
   }
 
-  private static int linesOfBody(String code, int from) {
+  private static String bodyFrom(String code, int from) {
     int depth = 1;
-    int lines = 0;
-    for (int i = from; i < code.length() && depth > 0; i++) {
+    int i = from;
+    while (i < code.length() && depth > 0) {
       char c = code.charAt(i);
       depth += c == '{' ? 1 : c == '}' ? -1 : 0;
-      lines += c == '\n' ? 1 : 0;
+      i++;
     }
-    return lines;
+    return code.substring(from, i);
   }
 
   public static void main(String[] args) throws IOException {
