@@ -2,15 +2,25 @@ import java.io.IOException;
 import java.nio.file.Files;
 import java.nio.file.Path;
 import java.util.function.Consumer;
+import java.util.function.IntUnaryOperator;
+import java.util.function.ToIntFunction;
 
 /** Counts the answers that are not due; a test ends with exit code 1 if there was one. */
 final class Due {
+  /** Numbers that are no line; 256 and 65536 would be one if they were cut short. */
+  static final int[] NO_LINES = {-1, 2, 3, 10, 256, 65536, -2, -5, Integer.MIN_VALUE, Integer.MAX_VALUE};
+  static final int[] NO_STOPS = {0, -1, 10, 11, 257, 65537, -5, Integer.MIN_VALUE, Integer.MAX_VALUE};
+  static final int[] NO_MINUTES = {-1, 1440, 1441, 2880, 65536, -5, Integer.MIN_VALUE, Integer.MAX_VALUE};
+  /** Numbers of no shift end and of no worker, where there are at most three of them. */
+  static final int[] NOBODY = {3, 4, -1, 9, 10, 30, 256, 65536, -2, -5, Integer.MIN_VALUE, Integer.MAX_VALUE};
+
   private static final int MOST_STATES = 4;
 
   private static int asked = 0;
   private static int wrong = 0;
   private static String sentence = "";
   private static String document = null;
+  private static final StringBuilder quotes = new StringBuilder();
 
   private Due() {
   }
@@ -27,6 +37,13 @@ final class Due {
     due(what, holds ? 1 : 0, 1);
   }
 
+  /** The same is due of a call with each of these arguments. */
+  static void each(String call, int[] arguments, IntUnaryOperator made, int want) {
+    for (int argument : arguments) {
+      due(call + " " + argument, made.applyAsInt(argument), want);
+    }
+  }
+
   static void finish() {
     if (asked == 0) {
       System.out.println("nothing was asked");
@@ -34,33 +51,81 @@ final class Due {
     if (wrong != 0 || asked == 0) {
       System.exit(1);
     }
+    tellQuotes();
+  }
+
+  /** Where the property quotes names a file, it tells EverySentence what was quoted by a test that passed. */
+  private static void tellQuotes() {
+    String file = System.getProperty("quotes", "");
+    if (file.isEmpty()) {
+      return;
+    }
+    try {
+      Files.writeString(Path.of(file), quotes);
+    } catch (IOException failed) {
+      System.out.println("the quotes can't be told to " + file);
+      System.exit(1);
+    }
   }
 
   // -- sentences of the document
 
-  /** What follows shows whether this sentence holds; that the document still says it is looked up. */
+  /** What follows shows whether this sentence holds; that the document still says it, once, is looked up. */
   static void sentence(String words) {
-    sentence = " [" + words + "]";
-    if (document == null) {
-      document = readDocument();
+    quote(words, words, 0, document().length());
+  }
+
+  /** The same of a sentence of this promise, for what several promises say in the same words. */
+  static void promise(int number, String words) {
+    String heading = "## Promise " + number + ": ";
+    int from = document().indexOf(heading);
+    int next = document().indexOf(" ## ", from + heading.length());
+    quote("promise " + number + ": " + words, words, from, next);
+  }
+
+  private static void quote(String told, String words, int from, int to) {
+    sentence = " [" + told + "]";
+    if (document().isEmpty()) {
+      return;
     }
-    holds("the document says \"" + words + "\"", document.isEmpty() || document.contains(asOneLine(words)));
+    String sought = asOneLine(words);
+    int at = from < 0 || to < from ? -1 : document().indexOf(sought, from);
+    boolean isThere = at >= 0 && at + sought.length() <= to;
+    holds("the document says it", isThere);
+    int again = document().indexOf(sought, at + 1);
+    holds("the document says it once", isThere && (again < 0 || again + sought.length() > to));
+    quotes.append(at).append(' ').append(at + sought.length()).append('\n');
   }
 
   /** Without the document nothing can be looked up, but the answers are due all the same. */
-  private static String readDocument() {
-    try {
-      return asOneLine(Files.readString(Path.of("../shared/DOC.md")));
-    } catch (IOException missing) {
-      return "";
+  static String document() {
+    if (document == null) {
+      try {
+        document = asOneLine(Files.readString(Path.of("../shared/DOC.md")));
+      } catch (IOException missing) {
+        document = "";
+      }
     }
+    return document;
   }
 
-  private static String asOneLine(String words) {
+  static String asOneLine(String words) {
     return words.replaceAll("\\s+", " ").trim();
   }
 
   // -- what the tests share
+
+  /** What a call must do that is an act: it records the one state that was before it, and undo() restores that. */
+  static void isAnAct(String call, Consumer<CountedBuses> done, ToIntFunction<CountedBuses> made) {
+    CountedBuses x = after(done);
+    int states = x.count(16);
+    String before = stateOf(x);
+    holds(call + " is no error", made.applyAsInt(x) >= 0);
+    due("states after " + call, x.count(16), Math.min(MOST_STATES, states + 1));
+    holds(call + " changes the state", !before.equals(stateOf(x)));
+    due("undo of " + call, x.undo(), Math.min(MOST_STATES - 1, states));
+    holds("undo of " + call + " restores the state before", before.equals(stateOf(x)));
+  }
 
   /** Makes works with shift ends at these minutes. */
   static CountedBuses worksWithEnds(int... minutes) {

@@ -373,6 +373,43 @@ public final class EdgesOfDaysTest {
     dueOfTotals("a day without anybody", x, 101, 100, 100, 100, 2400, 1400);
   }
 
+  // -- sentences without a boundary
+
+  private static void allWithPromisesRide() {
+    Due.sentence("all riders with promises ride home, if they still can");
+    CountedBuses x = Due.worksWithEnds(600, 610, 1439);
+    x.merge(0, 0, 1);
+    for (int w = 0; w < 30; w++) {
+      x.book(w % 3, w / 3 % 2, 1 + w % 9);
+    }
+    int riders = x.count(2);
+    Due.due("riders of five buses", riders, 4 * 5 + 6);
+    for (int day = 1; day <= 3; day++) {
+      Due.due("passDay", x.passDay(), 0);
+      Due.due("rides by bus", x.count(6), day * riders);
+      Due.due("walks", x.count(8), day * (30 - riders));
+    }
+    for (int w = 0; w < 30; w++) {
+      Due.due("rides of worker " + w, x.worker(w, BY_BUS), 3 * x.worker(w, 3));
+    }
+  }
+
+  private static void whenADayPasses() {
+    Due.sentence("When a day passes, for each bus");
+    CountedBuses x = Due.worksWithEnds(600);
+    x.book(0, 0, 5);
+    x.book(0, 1, 4);
+    x.keep();
+    x.addEnd(700);
+    x.set(2, 40);
+    x.merge(0, 0, 1);
+    x.restore();
+    x.undo();
+    dueOfTotals("nobody has ridden before a day passed", x, 0, 0, 0, 0, 0, 0);
+    x.passDay();
+    dueOfTotals("one day", x, 1, 2, 0, 0, 30 + 28, 0);
+  }
+
   public static void main(String[] args) {
     fartherStopsFirst();
     ofSeveralByNumber();
@@ -391,6 +428,8 @@ public final class EdgesOfDaysTest {
     newWorkersHaveNotRidden();
     changingTheEndKeepsTheRides();
     totalsAreOfAllDays();
+    allWithPromisesRide();
+    whenADayPasses();
     Due.finish();
   }
 }

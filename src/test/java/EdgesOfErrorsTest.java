@@ -1,5 +1,6 @@
 import java.util.ArrayList;
 import java.util.List;
+import java.util.Random;
 import java.util.function.Consumer;
 import java.util.function.ToIntFunction;
 
@@ -284,6 +285,124 @@ public final class EdgesOfErrorsTest {
     Due.due("bus that would be NONE", x.bus(0, 0, 1), NONE);
   }
 
+  // -- the constants
+
+  private static void badValues() {
+    Due.sentence("`BAD_VALUE = -2`: Another argument is out of range.");
+    CountedBuses x = Due.worksWithEnds(600, 610);
+    x.book(0, 0, 1);
+    Due.due("addEnd", x.addEnd(1440), ShiftBuses.BAD_VALUE);
+    Due.due("merge", x.merge(0, 1, 1), ShiftBuses.BAD_VALUE);
+    Due.due("set of no setting", x.set(4, 10), ShiftBuses.BAD_VALUE);
+    Due.due("set of no value", x.set(0, 21), ShiftBuses.BAD_VALUE);
+    Due.due("worker", x.worker(0, 9), ShiftBuses.BAD_VALUE);
+    Due.due("bus", x.bus(0, 0, 6), ShiftBuses.BAD_VALUE);
+    Due.due("spares", x.spares(0, 1, 1), ShiftBuses.BAD_VALUE);
+    Due.due("byMinute", x.byMinute(-1), ShiftBuses.BAD_VALUE);
+    Due.due("count", x.count(18), ShiftBuses.BAD_VALUE);
+  }
+
+  private static void noMoreRoom() {
+    Due.sentence("`FULL = -3`: There is no more room.");
+    CountedBuses x = new CountedBuses();
+    for (int end = 0; end < 10; end++) {
+      Due.holds("room for the shift end " + end, x.addEnd(600) >= 0);
+    }
+    Due.due("addEnd", x.addEnd(600), ShiftBuses.FULL);
+    for (int i = 0; i < 60; i++) {
+      Due.holds("room for the character " + i, x.type("0a1,".charAt(i % 4)) >= 0);
+    }
+    Due.due("type", x.type('1'), ShiftBuses.FULL);
+    x.clearText();
+    Due.typeText(x, "0a1");
+    for (int w = 0; w < 30; w++) {
+      Due.holds("room for the worker " + w, (w % 2 == 0 ? x.book(0, 0, 1) : x.bookAll()) >= 0);
+    }
+    Due.due("book", x.book(0, 0, 1), ShiftBuses.FULL);
+    Due.due("bookAll", x.bookAll(), ShiftBuses.FULL);
+  }
+
+  private static void notPossible() {
+    Due.sentence("`NOT_POSSIBLE = -4`: This is not possible.");
+    CountedBuses x = Due.worksWithEnds(600, 631, 620);
+    Due.due("merge", x.merge(0, 0, 1), ShiftBuses.NOT_POSSIBLE);
+    Due.due("spares", x.spares(0, 0, 1), ShiftBuses.NOT_POSSIBLE);
+    Due.holds("this is", x.spares(0, 0, 2) >= 0);
+    Due.holds("this is", x.merge(0, 0, 2) >= 0);
+  }
+
+  private static void noSuchThing() {
+    Due.sentence("`NONE = -5`: There is no such thing; not an error.");
+    CountedBuses x = new CountedBuses();
+    Due.due("undo", x.undo(), ShiftBuses.NONE);
+    Due.due("restore", x.restore(), ShiftBuses.NONE);
+    Due.due("byMinute", x.byMinute(0), ShiftBuses.NONE);
+    Due.due("set", x.set(0, 5), ShiftBuses.NONE);
+    x.addEnd(600);
+    x.book(0, 0, 1);
+    Due.due("stay", x.stay(0, 0), ShiftBuses.NONE);
+    Due.due("part", x.part(0, 0), ShiftBuses.NONE);
+    Due.due("bus", x.bus(0, 0, 1), ShiftBuses.NONE);
+  }
+
+  /** Whatever is asked, what is below 0 is one of the constants that the call's @return line names. */
+  private static void errorsAreTheConstants() {
+    Due.sentence("Errors are reported by the constants below.");
+    Random random = new Random(9);
+    int[][] may = {{BAD_VALUE, FULL}, {UNKNOWN, FULL}, {UNKNOWN, FULL}, {UNKNOWN}, {UNKNOWN, NONE},
+        {UNKNOWN, BAD_VALUE, NOT_POSSIBLE}, {UNKNOWN, NONE}, {BAD_VALUE, NONE}, {}, {FULL}, {}, {NONE}, {}, {NONE},
+        {UNKNOWN, BAD_VALUE}, {UNKNOWN, BAD_VALUE, NONE}, {UNKNOWN}, {UNKNOWN}, {UNKNOWN, BAD_VALUE, NOT_POSSIBLE},
+        {BAD_VALUE, NONE}, {BAD_VALUE}};
+    int[] errors = new int[may.length];
+    for (int run = 0; run < 200; run++) {
+      CountedBuses x = new CountedBuses();
+      while (x.calls() < CountedBuses.MOST_CALLS) {
+        int any = random.nextInt(may.length);
+        int call = any == 10 && run % 2 == 0 ? 9 : any; // some texts grow until they are full
+        int answer = anyCall(x, call, random);
+        boolean isFault = call == 2 && answer <= -100 && answer >= -160;
+        boolean isNamed = answer >= 0 || isFault;
+        for (int constant : may[call]) {
+          isNamed |= answer == constant;
+        }
+        Due.holds("the answer " + answer + " of the call " + call + " is one of those that it names", isNamed);
+        errors[call] += answer < 0 ? 1 : 0;
+      }
+    }
+    for (int call = 0; call < may.length; call++) {
+      Due.holds("there were errors of the call " + call, errors[call] > 0 || may[call].length == 0);
+    }
+  }
+
+  private static int anyCall(CountedBuses x, int call, Random random) {
+    int a = random.nextInt(6) - 1;
+    int b = random.nextInt(4) - 1;
+    int c = random.nextInt(12) - 1;
+    switch (call) {
+      case 0: return x.addEnd(590 + 10 * c + (b < 0 ? 2000 : 0));
+      case 1: return x.book(a, b, c);
+      case 2: return x.bookAll();
+      case 3: return x.takeBack(c);
+      case 4: return x.stay(c, a);
+      case 5: return x.merge(b, a, c);
+      case 6: return x.part(b, a);
+      case 7: return x.set(a, 3 * c);
+      case 8: return x.passDay();
+      case 9: return x.type("0a1,".charAt(x.calls() % 4));
+      case 10: return x.clearText();
+      case 11: return x.undo();
+      case 12: return x.keep();
+      case 13: return x.restore();
+      case 14: return x.worker(a, c);
+      case 15: return x.bus(b, a, c);
+      case 16: return x.taken(b, a, c);
+      case 17: return x.why(b, a, c);
+      case 18: return x.spares(b, a, c);
+      case 19: return x.byMinute(c);
+      default: return x.count(2 * c);
+    }
+  }
+
   public static void main(String[] args) {
     whenAllIsFull();
     errorsOfTexts();
@@ -294,6 +413,11 @@ public final class EdgesOfErrorsTest {
     whatIsToldChangesNothing();
     ofNewWorks();
     noneIsNoError();
+    badValues();
+    noMoreRoom();
+    notPossible();
+    noSuchThing();
+    errorsAreTheConstants();
     Due.finish();
   }
 }

@@ -1,14 +1,9 @@
 /** LINES, SHIFTS, BUSES: each sentence that names a boundary, just below, at and just above it. */
 public final class EdgesOfLinesShiftsBusesTest {
-  /** Numbers that are no line; 256 and 65536 would be one if they were cut short. */
-  private static final int[] NO_LINES = {-1, 2, 3, 10, 256, 65536, -2, -5, Integer.MIN_VALUE, Integer.MAX_VALUE};
-  private static final int[] NO_STOPS = {0, -1, 10, 11, 257, 65537, -5, Integer.MIN_VALUE, Integer.MAX_VALUE};
-  private static final int[] NO_MINUTES = {-1, 1440, 1441, 2880, 65536, -5, Integer.MIN_VALUE, Integer.MAX_VALUE};
-
   private static void twoLines() {
     Due.sentence("There are two lines of stops, 0 and 1");
     CountedBuses x = Due.worksWithEnds(600, 610);
-    for (int line : NO_LINES) {
+    for (int line : Due.NO_LINES) {
       String of = " of the line " + line;
       Due.due("book" + of, x.book(0, line, 1), -1);
       Due.due("merge" + of, x.merge(line, 0, 1), -1);
@@ -33,7 +28,7 @@ public final class EdgesOfLinesShiftsBusesTest {
   private static void nineStops() {
     Due.sentence("each with 9 stops, numbered 1 to 9 from the works out; the works are at 0");
     CountedBuses x = Due.worksWithEnds(600);
-    for (int stop : NO_STOPS) {
+    for (int stop : Due.NO_STOPS) {
       String of = " of the stop " + stop;
       Due.due("book" + of, x.book(0, 0, stop), -1);
       Due.due("taken" + of, x.taken(0, 0, stop), -1);
@@ -72,7 +67,7 @@ public final class EdgesOfLinesShiftsBusesTest {
     CountedBuses x = new CountedBuses();
     int[] minutes = {0, 1439, 1, 1438, 720, 720, 0, 1439, 300, 301};
     for (int end = 0; end < 10; end++) {
-      for (int minute : NO_MINUTES) {
+      for (int minute : Due.NO_MINUTES) {
         Due.due("addEnd(" + minute + ")", x.addEnd(minute), -2);
       }
       Due.due("there is no shift end " + end + " yet", x.bus(0, end, 0), -1);
@@ -92,7 +87,7 @@ public final class EdgesOfLinesShiftsBusesTest {
   }
 
   private static void shiftEndsThatAreNotThere() {
-    Due.sentence("UNKNOWN = -1`: There is no such shift end, worker, line or stop.");
+    Due.sentence("The constants: `UNKNOWN = -1`: There is no such shift end, worker, line or stop.");
     for (int ends = 0; ends <= 3; ends++) {
       CountedBuses x = Due.worksWithEnds(java.util.Arrays.copyOf(new int[] {600, 610, 620}, ends));
       int[] none = {ends, ends + 1, -1, 9, 10, 11, -5, 256, 65536, Integer.MIN_VALUE, Integer.MAX_VALUE};
@@ -179,7 +174,8 @@ public final class EdgesOfLinesShiftsBusesTest {
   }
 
   private static void minutesApart() {
-    Due.sentence("whose minutes of the day differ by at most the setting 2 (0 to 120; 30 at first; not round midnight)");
+    Due.sentence("Two buses of one line, of two shift ends whose minutes of the day differ by at most the setting 2 (0 to 120;"
+        + " 30 at first; not round midnight), can be merged");
     Due.due("30 at first", new CountedBuses().count(13), 30);
     int[] aparts = {0, 1, 29, 30, 31, 119, 120};
     for (int apart : aparts) {

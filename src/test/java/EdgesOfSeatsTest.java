@@ -484,6 +484,62 @@ public final class EdgesOfSeatsTest {
     dueOfPromises("parted", parted, 0, 1, 0, 1);
   }
 
+  // -- sentences without a boundary
+
+  private static void eachHasItsOwn() {
+    Due.sentence("each has a shift end, a line and a stop");
+    CountedBuses x = Due.worksWithEnds(600, 700, 800, 900, 1000);
+    for (int w = 0; w < 30; w++) {
+      x.book(w % 5, w / 5 % 2, 1 + w * 7 % 9);
+    }
+    for (int w = 0; w < 30; w += 2) {
+      x.takeBack(w);
+    }
+    for (int w = 1; w < 30; w += 2) {
+      Due.due("the shift end of " + w, x.worker(w, 0), w % 5);
+      Due.due("the line of " + w, x.worker(w, 1), w / 5 % 2);
+      Due.due("the stop of " + w, x.worker(w, 2), 1 + w * 7 % 9);
+    }
+  }
+
+  private static void whoIsNotPromisedWaits() {
+    Due.sentence("Who is not promised a seat waits.");
+    CountedBuses x = Due.worksWithEnds(600, 700);
+    x.set(1, 4);
+    x.set(3, 40);
+    for (int w = 0; w < 20; w++) {
+      x.book(w % 2, 0, 5 + w % 5); // every fifth one is late
+    }
+    int waiting = 0;
+    for (int w = 0; w < 20; w++) {
+      waiting += 1 - x.worker(w, 3);
+    }
+    Due.due("those without a promise", waiting, 12);
+    Due.due("wait", x.count(3), waiting);
+    Due.due("for their buses", x.bus(0, 0, 3) + x.bus(0, 1, 3), waiting);
+    Due.due("all others have promises", x.count(2), 20 - waiting);
+    x.passDay();
+    for (int w = 0; w < 20; w++) {
+      Due.due("who waits walks, worker " + w, x.worker(w, 8), 1 - x.worker(w, 3));
+    }
+  }
+
+  /** Those of one line take no seat from those of the other one, so whoever comes first has the own line's seat. */
+  private static void byLines() {
+    Due.sentence("then by lines, then by the nearer stops first");
+    CountedBuses x = Due.worksWithEnds(600);
+    x.set(1, 1);
+    x.set(3, 10);
+    x.book(0, 1, 3);
+    x.book(0, 0, 9);
+    x.book(0, 1, 4);
+    x.book(0, 0, 8);
+    x.set(3, 300);
+    dueOfPromises("the nearer stop of each line", x, 0, 1, 0, 0, 1);
+    Due.due("takeBack(0)", x.takeBack(0), 1);
+    dueOfPromises("the one of the same line", x, 1, 0, 1, 1);
+  }
+
   public static void main(String[] args) {
     thirtyBookings();
     numbersOfWorkers();
@@ -507,6 +563,9 @@ public final class EdgesOfSeatsTest {
     seatsTakenInTheSameLook();
     whoStaysIsLookedAtInTurn();
     promisesAreNeverTakenBack();
+    eachHasItsOwn();
+    whoIsNotPromisedWaits();
+    byLines();
     Due.finish();
   }
 }

@@ -1,5 +1,60 @@
 /** Promise 2: addEnd. */
 public final class Promise02AddEndTest {
+  private static void addsAShiftEnd() {
+    Due.promise(2, "`int addEnd(int minute)`: Adds a shift end.");
+    CountedBuses x = Due.worksWithEnds(600);
+    x.book(0, 1, 3);
+    Due.due("addEnd", x.addEnd(500), 1);
+    Due.due("shift ends", x.count(0), 2);
+    for (int line = 0; line < 2; line++) {
+      int[] due = {500, -5, 0, 0, 0, 0};
+      for (int what = 0; what < due.length; what++) {
+        Due.due("bus(" + line + ", 1, " + what + ")", x.bus(line, 1, what), due[what]);
+      }
+      Due.due("why", x.why(line, 1, 9), 0);
+      Due.due("the bus that there was", x.bus(line, 0, 0), 600);
+    }
+    Due.due("the booking that there was", x.worker(0, 0), 0);
+    Due.due("its promise", x.worker(0, 3), 1);
+    Due.due("book at the new one", x.book(1, 0, 1), 1);
+  }
+
+  private static void isAnAct() {
+    Due.promise(2, "This is an act.");
+    Due.isAnAct("addEnd", x -> x.addEnd(600), x -> x.addEnd(600));
+    Due.isAnAct("addEnd of new works", x -> { }, x -> x.addEnd(0));
+  }
+
+  private static void minutes() {
+    Due.promise(2, "- `minute`: 0 to 1439");
+    CountedBuses x = Due.worksWithEnds(600);
+    for (int minute = 0; minute <= 1439; minute++) {
+      if (x.calls() > 500) {
+        x = Due.worksWithEnds(600);
+      }
+      Due.due("addEnd(" + minute + ")", x.addEnd(minute), 1);
+      Due.due("its minute", x.bus(1, 1, 0), minute);
+      x.undo();
+    }
+    CountedBuses y = Due.worksWithEnds(600);
+    Due.each("addEnd of the minute", Due.NO_MINUTES, y::addEnd, -2);
+    Due.due("shift ends", y.count(0), 1);
+  }
+
+  private static void returnsItsNumber() {
+    Due.promise(2, "Returns its number; BAD_VALUE; FULL if there are 10.");
+    CountedBuses x = new CountedBuses();
+    for (int end = 0; end < 10; end++) {
+      Due.due("no minute, room", x.addEnd(1440), -2);
+      Due.due("addEnd", x.addEnd(1439 - end), end);
+    }
+    Due.due("no minute, no room", x.addEnd(-1), -2);
+    Due.due("no room", x.addEnd(0), -3);
+    x.undo();
+    Due.due("room for one", x.addEnd(0), 9);
+    Due.due("no room", x.addEnd(0), -3);
+  }
+
   public static void main(String[] args) {
     CountedBuses x = new CountedBuses();
     Due.due("addEnd(-1)", x.addEnd(-1), -2);
@@ -29,6 +84,10 @@ public final class Promise02AddEndTest {
     y.book(0, 0, 1);
     y.addEnd(601);
     Due.due("who waits is not looked at by it", y.worker(1, 3), 0);
+    addsAShiftEnd();
+    isAnAct();
+    minutes();
+    returnsItsNumber();
     Due.finish();
   }
 }

@@ -61,10 +61,57 @@ public final class Promise04BookAllTest {
     Due.due("count(1)", y.count(1), 30);
   }
 
+  private static final int[][] BOOKED = {{1, 1, 3}, {1, 1, 9}, {0, 0, 5}, {2, 0, 1}, {2, 0, 1}, {2, 0, 2}, {1, 1, 1}};
+
+  private static void worksToBookIn(CountedBuses x) {
+    x.addEnd(600);
+    x.addEnd(700);
+    x.addEnd(800);
+    x.set(1, 2);
+  }
+
+  /** The same as so many calls of book in the same order. */
+  private static void booksTheSeatsOfTheText() {
+    Due.promise(4, "`int bookAll()`: Books the seats of the text, which stays, one after the other; all of them, or none.");
+    CountedBuses one = new CountedBuses();
+    worksToBookIn(one);
+    for (int[] a : BOOKED) {
+      one.book(a[0], a[1], a[2]);
+    }
+    CountedBuses all = new CountedBuses();
+    worksToBookIn(all);
+    due(all, "1b39,0a5,2a112,1b1", BOOKED.length);
+    Due.holds("the same as one after the other", Due.stateOf(one).equals(Due.stateOf(all)));
+    Due.due("two of seven wait", all.count(3), 2);
+    String before = Due.stateOf(all);
+    due(all, "0a1,1b2,3a3", -1);
+    due(all, "0a1,1b2,2a3,", -112);
+    due(all, "0a111111111111111111111111", -3);
+    Due.holds("none of them", before.equals(Due.stateOf(all)));
+  }
+
+  private static void isOneAct() {
+    Due.promise(4, "This is one act.");
+    Due.isAnAct("bookAll", x -> {
+      worksToBookIn(x);
+      for (char character : "1b39,0a5,2a112".toCharArray()) {
+        x.type(character);
+      }
+    }, CountedBuses::bookAll);
+    Due.isAnAct("bookAll of one seat", x -> {
+      x.addEnd(600);
+      x.type('0');
+      x.type('b');
+      x.type('9');
+    }, CountedBuses::bookAll);
+  }
+
   public static void main(String[] args) {
     faults();
     booksAll();
     fullOrNot();
+    booksTheSeatsOfTheText();
+    isOneAct();
     Due.finish();
   }
 }

@@ -108,6 +108,74 @@ public final class Promise05TakeBackTest {
     Due.due("taken back twice", x.takeBack(0), -1);
   }
 
+  private static void takesTheBookingBack() {
+    Due.promise(5, "`int takeBack(int worker)`: Takes a booking back.");
+    CountedBuses x = Due.worksWithEnds(600, 700);
+    x.book(0, 0, 3);
+    x.book(0, 0, 5);
+    x.book(1, 1, 9);
+    Due.due("takeBack(1)", x.takeBack(1), 0);
+    for (int what = 0; what <= 8; what++) {
+      Due.due("worker(1, " + what + ")", x.worker(1, what), -1);
+    }
+    Due.due("workers with bookings", x.count(1), 2);
+    Due.due("the seat is free", x.taken(0, 0, 3), 1);
+    Due.due("and no farther than to the other one's stop", x.bus(0, 0, 4), 3);
+    Due.due("the others stay", x.worker(0, 2), 3);
+    Due.due("the others stay", x.worker(2, 2), 9);
+    Due.due("passDay", x.passDay(), 0);
+    Due.due("who has no booking does not ride", x.count(6), 2);
+  }
+
+  private static void isAnAct() {
+    Due.promise(5, "This is an act.");
+    Due.isAnAct("takeBack", x -> {
+      x.addEnd(600);
+      x.book(0, 0, 1);
+    }, x -> x.takeBack(0));
+    Due.isAnAct("takeBack that lets another one in", x -> {
+      x.addEnd(600);
+      x.set(1, 1);
+      x.book(0, 0, 1);
+      x.book(0, 0, 2);
+      x.passDay();
+    }, x -> x.takeBack(0));
+  }
+
+  private static void whoIsTakenBack() {
+    Due.promise(5, "- `worker`: a worker with a booking");
+    CountedBuses x = Due.worksWithEnds(600);
+    Due.due("nobody has a booking yet", x.takeBack(0), -1);
+    for (int w = 0; w < 3; w++) {
+      x.book(0, w % 2, 1 + w);
+    }
+    Due.each("takeBack of the worker", Due.NOBODY, x::takeBack, -1);
+    Due.due("workers with bookings", x.count(1), 3);
+    int[] order = {1, 2, 0};
+    for (int w : order) {
+      Due.due("takeBack(" + w + ")", x.takeBack(w), 0);
+      Due.due("takeBack(" + w + ") again", x.takeBack(w), -1);
+    }
+    Due.due("workers with bookings", x.count(1), 0);
+  }
+
+  private static void returnsHowManyWait() {
+    Due.promise(5, "Returns how many workers wait then; UNKNOWN.");
+    CountedBuses x = Due.worksWithEnds(600, 700);
+    x.set(1, 1);
+    for (int w = 0; w < 6; w++) {
+      x.book(w / 3, 0, 1); // 0 and 3 have seats
+    }
+    Due.due("who waits is taken back", x.takeBack(1), 3);
+    Due.due("who has a seat, and one is let in", x.takeBack(0), 2);
+    Due.due("who has a seat, and nobody waits for it", x.takeBack(2), 2);
+    Due.due("of the other bus", x.takeBack(3), 1);
+    Due.due("nobody", x.takeBack(3), -1);
+    Due.due("the last one who waits", x.takeBack(5), 0);
+    Due.due("the last one", x.takeBack(4), 0);
+    Due.due("nobody", x.takeBack(4), -1);
+  }
+
   public static void main(String[] args) {
     orderOfThoseWhoWait();
     whoWaitsAndGoes();
@@ -115,6 +183,10 @@ public final class Promise05TakeBackTest {
     totalsStay();
     allWhoWaitAreLookedAt();
     errors();
+    takesTheBookingBack();
+    isAnAct();
+    whoIsTakenBack();
+    returnsHowManyWait();
     Due.finish();
   }
 }

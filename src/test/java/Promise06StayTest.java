@@ -62,11 +62,89 @@ public final class Promise06StayTest {
     Due.due("not even as it is", x.stay(0, 0), -1);
   }
 
+  private static void changesTheEndAlone() {
+    Due.promise(6, "`int stay(int worker, int end)`: Changes the shift end of a worker");
+    CountedBuses x = Due.worksWithEnds(600, 700, 650);
+    x.book(0, 1, 4);
+    x.book(0, 1, 4);
+    x.passDay();
+    int[] ends = {1, 2, 0, 2, 1};
+    for (int end : ends) {
+      Due.due("stay(0, " + end + ")", x.stay(0, end), 1);
+      int[] due = {end, 1, 4, 1, 20, 0, 1, 0, 0};
+      for (int what = 0; what < due.length; what++) {
+        Due.due("worker(0, " + what + ")", x.worker(0, what), due[what]);
+      }
+      Due.due("the bus of the shift end", x.taken(1, end, 4), end == 0 ? 2 : 1);
+      Due.due("the other worker", x.worker(1, 0), 0);
+    }
+    Due.due("workers with bookings", x.count(1), 2);
+    Due.due("bookings so far", x.count(15), 2);
+  }
+
+  private static void isAnAct() {
+    Due.promise(6, "This is an act.");
+    Due.isAnAct("stay", x -> {
+      x.addEnd(600);
+      x.addEnd(700);
+      x.book(0, 0, 1);
+    }, x -> x.stay(0, 1));
+    Due.isAnAct("stay of one who waits then", x -> {
+      x.addEnd(600);
+      x.addEnd(700);
+      x.set(1, 1);
+      x.book(0, 0, 1);
+      x.book(1, 0, 1);
+    }, x -> x.stay(0, 1));
+  }
+
+  private static void whoStaysAndWhere() {
+    CountedBuses x = Due.worksWithEnds(600, 700, 800);
+    for (int w = 0; w < 3; w++) {
+      x.book(w, 0, 1);
+    }
+    Due.promise(6, "- `worker`: a worker with a booking");
+    Due.each("stay of the worker", Due.NOBODY, worker -> x.stay(worker, 0), -1);
+    Due.promise(6, "- `end`: a shift end");
+    Due.each("stay to the shift end", Due.NOBODY, end -> x.stay(0, end), -1);
+    for (int w = 0; w < 3; w++) {
+      for (int end = 0; end < 3; end++) {
+        Due.due("stay(" + w + ", " + end + ")", x.stay(w, end), w == 0 && end == 0 ? -5 : 1);
+        Due.due("worker(" + w + ", 0)", x.worker(w, 0), end);
+      }
+    }
+    x.takeBack(1);
+    Due.due("stay of one who was taken back", x.stay(1, 0), -1);
+  }
+
+  private static void returnsWhetherItIsPromised() {
+    Due.promise(6, "Returns 1 if it is promised then, otherwise 0; UNKNOWN (worker or end); NONE if it is so already.");
+    CountedBuses x = Due.worksWithEnds(600, 700);
+    x.set(1, 1);
+    x.book(0, 0, 2); // 0 has the seat
+    x.book(1, 0, 2); // 1 has the seat
+    x.book(1, 0, 1); // 2 waits
+    Due.due("to a full bus", x.stay(0, 1), 0);
+    Due.due("worker(0, 3)", x.worker(0, 3), 0);
+    Due.due("to an empty bus", x.stay(2, 0), 1);
+    Due.due("worker(2, 3)", x.worker(2, 3), 1);
+    Due.due("so already, with a seat", x.stay(2, 0), -5);
+    Due.due("so already, without one", x.stay(0, 1), -5);
+    Due.due("no worker, so already", x.stay(3, 1), -1);
+    Due.due("no end", x.stay(0, 2), -1);
+    Due.due("from a seat to one that waits for nobody", x.stay(1, 0), 0);
+    Due.due("who waited has the seat then", x.worker(0, 3), 1);
+  }
+
   public static void main(String[] args) {
     changesTheEnd();
     losesTheSeatOfAMergedBus();
     rideCountsStay();
     errors();
+    changesTheEndAlone();
+    isAnAct();
+    whoStaysAndWhere();
+    returnsWhetherItIsPromised();
     Due.finish();
   }
 }

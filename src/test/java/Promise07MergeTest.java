@@ -99,6 +99,58 @@ public final class Promise07MergeTest {
     Due.due("both the same, merged already", x.merge(0, 1, 1), -2);
   }
 
+  private static void mergesTheBusesOfTwo() {
+    Due.promise(7, "`int merge(int line, int end, int other)`: Merges the bus of a shift end with that of another one.");
+    CountedBuses x = Due.worksWithEnds(600, 610, 620);
+    x.book(0, 1, 3);
+    x.book(2, 1, 5);
+    x.book(1, 1, 9);
+    Due.due("merge", x.merge(1, 2, 0), 620);
+    int[][] due = {{620, 2, 2, 0, 5, 30}, {610, -5, 1, 0, 9, 38}, {620, 0, 2, 0, 5, 30}};
+    for (int end = 0; end < 3; end++) {
+      for (int what = 0; what <= 5; what++) {
+        Due.due("bus(1, " + end + ", " + what + ")", x.bus(1, end, what), due[end][what]);
+      }
+      Due.due("the other line", x.bus(0, end, 1), -5);
+      Due.due("who is booked keeps the own shift end", x.worker(end, 0), new int[] {0, 2, 1}[end]);
+    }
+    Due.due("minutes behind the own shift end, of the earlier one", x.worker(0, 4), 35);
+    Due.due("minutes behind the own shift end, of the later one", x.worker(1, 4), 25);
+  }
+
+  private static void isAnAct() {
+    Due.promise(7, "This is an act.");
+    Due.isAnAct("merge", x -> {
+      x.addEnd(600);
+      x.addEnd(600);
+    }, x -> x.merge(0, 0, 1));
+    Due.isAnAct("merge of buses with riders", x -> {
+      x.addEnd(600);
+      x.addEnd(630);
+      x.book(0, 1, 9);
+      x.book(1, 1, 9);
+    }, x -> x.merge(1, 1, 0));
+  }
+
+  private static void whatIsMerged() {
+    CountedBuses x = Due.worksWithEnds(600, 610, 620);
+    Due.promise(7, "- `line`: 0 or 1");
+    Due.each("merge of the line", Due.NO_LINES, line -> x.merge(line, 0, 1), -1);
+    Due.promise(7, "- `end`: a shift end");
+    Due.each("merge of the shift end", Due.NOBODY, end -> x.merge(0, end, 1), -1);
+    Due.promise(7, "- `other`: another shift end");
+    Due.each("merge with the shift end", Due.NOBODY, other -> x.merge(0, 0, other), -1);
+    for (int line = 0; line < 2; line++) {
+      for (int end = 0; end < 3; end++) {
+        for (int other = 0; other < 3; other++) {
+          int want = end == other ? -2 : 600 + 10 * Math.max(end, other);
+          Due.due("merge(" + line + ", " + end + ", " + other + ")", x.merge(line, end, other), want);
+          Due.due("part", x.part(line, end), end == other ? -5 : other);
+        }
+      }
+    }
+  }
+
   public static void main(String[] args) {
     mergesTwo();
     asFarApartAsTold();
@@ -106,6 +158,9 @@ public final class Promise07MergeTest {
     nobodyTooLate();
     whoWaitsGoesOnWaiting();
     errors();
+    mergesTheBusesOfTwo();
+    isAnAct();
+    whatIsMerged();
     Due.finish();
   }
 }

@@ -51,10 +51,68 @@ public final class Promise08PartTest {
     Due.due("parted already", x.part(1, 0), -5);
   }
 
+  private static void partsThemAgain() {
+    Due.promise(8, "`int part(int line, int end)`: Parts a bus again.");
+    CountedBuses x = Due.worksWithEnds(600, 620, 640);
+    x.book(0, 0, 3);
+    x.book(1, 0, 5);
+    x.merge(0, 0, 1);
+    x.merge(1, 0, 1);
+    x.book(0, 0, 1);
+    Due.due("part", x.part(0, 0), 1);
+    int[][] due = {{600, -5, 2, 0, 3, 26}, {620, -5, 1, 0, 5, 30}};
+    for (int end = 0; end < 2; end++) {
+      for (int what = 0; what <= 5; what++) {
+        Due.due("bus(0, " + end + ", " + what + ")", x.bus(0, end, what), due[end][what]);
+      }
+      Due.due("the other line stays merged", x.bus(1, end, 1), 1 - end);
+    }
+    Due.due("minutes behind the own shift end", x.worker(0, 4), 15);
+    Due.due("it can be merged again", x.merge(0, 1, 0), 620);
+    Due.due("and parted again", x.part(0, 1), 0);
+    Due.due("and merged with another one", x.merge(0, 2, 1), 640);
+  }
+
+  private static void isAnAct() {
+    Due.promise(8, "This is an act.");
+    Due.isAnAct("part", x -> {
+      x.addEnd(600);
+      x.addEnd(610);
+      x.merge(1, 0, 1);
+    }, x -> x.part(1, 0));
+    Due.isAnAct("part that lets somebody in", x -> {
+      x.addEnd(600);
+      x.addEnd(610);
+      x.set(3, 10);
+      x.merge(0, 0, 1);
+      x.book(0, 0, 1);
+    }, x -> x.part(0, 1));
+  }
+
+  private static void whatIsParted() {
+    CountedBuses x = Due.worksWithEnds(600, 600, 600);
+    x.merge(0, 0, 2);
+    x.merge(1, 0, 2);
+    Due.promise(8, "- `line`: 0 or 1");
+    Due.each("part of the line", Due.NO_LINES, line -> x.part(line, 0), -1);
+    Due.promise(8, "- `end`: a shift end: either of both");
+    Due.each("part of the shift end", Due.NOBODY, end -> x.part(0, end), -1);
+    for (int line = 0; line < 2; line++) {
+      for (int end = 0; end < 3; end++) {
+        Due.due("part(" + line + ", " + end + ")", x.part(line, end), end == 1 ? -5 : 2 - end);
+        Due.due("pairs", x.count(4), end == 1 ? 2 : 1);
+        x.merge(line, 0, 2);
+      }
+    }
+  }
+
   public static void main(String[] args) {
     partsByEither();
     looksAtThoseWhoWait();
     errors();
+    partsThemAgain();
+    isAnAct();
+    whatIsParted();
     Due.finish();
   }
 }

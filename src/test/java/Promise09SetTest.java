@@ -71,10 +71,57 @@ public final class Promise09SetTest {
     Due.due("promises are never taken back", x.count(2), 2);
   }
 
+  private static void setsOneSetting() {
+    Due.promise(9, "`int set(int which, int value)`: Sets a setting.");
+    CountedBuses x = new CountedBuses();
+    int[] settings = {5, 6, 30, 90};
+    int[][] sets = {{2, 0}, {0, 20}, {3, 10}, {1, 30}, {0, 1}, {2, 120}, {1, 1}, {3, 300}};
+    for (int[] a : sets) {
+      Due.due("set(" + a[0] + ", " + a[1] + ")", x.set(a[0], a[1]), settings[a[0]]);
+      settings[a[0]] = a[1];
+      for (int which = 0; which < 4; which++) {
+        Due.due("the setting " + which, x.count(11 + which), settings[which]);
+      }
+    }
+  }
+
+  private static void isAnAct() {
+    Due.promise(9, "This is an act.");
+    for (int which = 0; which < 4; which++) {
+      int asked = which;
+      Due.isAnAct("set of " + which, x -> x.addEnd(600), x -> x.set(asked, 15));
+    }
+    Due.isAnAct("set that lets somebody in", x -> {
+      x.addEnd(600);
+      x.set(1, 1);
+      x.book(0, 0, 1);
+      x.book(0, 0, 1);
+    }, x -> x.set(1, 2));
+  }
+
+  private static void valuesInTheirRange() {
+    Due.promise(9, "- `value`: in its range");
+    int[][] ranges = {{1, 20}, {1, 30}, {0, 120}, {10, 300}};
+    int[] values = {-1, 0, 1, 2, 9, 10, 11, 20, 21, 30, 31, 120, 121, 300, 301, Integer.MIN_VALUE, Integer.MAX_VALUE};
+    for (int which = 0; which < 4; which++) {
+      for (int value : values) {
+        CountedBuses x = new CountedBuses();
+        boolean isInRange = value >= ranges[which][0] && value <= ranges[which][1];
+        int first = x.count(11 + which);
+        int want = !isInRange ? -2 : value == first ? -5 : first;
+        Due.due("set(" + which + ", " + value + ")", x.set(which, value), want);
+        Due.due("the setting " + which, x.count(11 + which), isInRange ? value : first);
+      }
+    }
+  }
+
   public static void main(String[] args) {
     ranges();
     looksAtThoseWhoWait();
     takesNoPromiseBack();
+    setsOneSetting();
+    isAnAct();
+    valuesInTheirRange();
     Due.finish();
   }
 }

@@ -113,6 +113,53 @@ public final class Promise10PassDayTest {
     Due.due("walks", x.worker(1, 8), 1);
   }
 
+  private static void aDayPasses() {
+    Due.promise(10, "`int passDay()`: Lets a day pass.");
+    CountedBuses x = Due.worksWithEnds(600);
+    x.set(3, 20);
+    x.book(0, 0, 3);
+    x.book(0, 0, 9); // waits
+    for (int day = 1; day <= 10; day++) {
+      Due.due("passDay", x.passDay(), 0);
+      dueOfCounts(x, day, day, 0, day, 26 * day, 0);
+      dueOfWorkers(x, 6, day, 0);
+      dueOfWorkers(x, 8, 0, day);
+    }
+  }
+
+  private static void isAnAct() {
+    Due.promise(10, "This is an act.");
+    Due.isAnAct("passDay of new works", x -> { }, CountedBuses::passDay);
+    Due.isAnAct("passDay", x -> {
+      x.addEnd(600);
+      x.book(0, 0, 9);
+      x.book(0, 0, 9);
+      x.set(1, 1);
+      x.book(0, 0, 9);
+    }, CountedBuses::passDay);
+  }
+
+  private static void returnsHowManyRideByTaxi() {
+    Due.promise(10, "Returns how many ride home by taxi.");
+    CountedBuses x = Due.worksWithEnds(600, 600);
+    x.set(1, 5);
+    for (int w = 0; w < 20; w++) {
+      x.book(w % 2, w / 2 % 2, 9);
+    }
+    int taxis = 0;
+    for (int seats = 5; seats >= 1; seats--) {
+      x.set(1, seats);
+      Due.due("of four buses with five riders each", x.passDay(), 4 * (5 - seats));
+      taxis += 4 * (5 - seats);
+      Due.due("taxis so far", x.count(7), taxis);
+    }
+    x.set(0, 20);
+    Due.due("all are late", x.passDay(), 20);
+    x.takeBack(0);
+    Due.due("who waits does not ride by taxi", x.book(0, 0, 9), 20);
+    Due.due("all but one", x.passDay(), 19);
+  }
+
   public static void main(String[] args) {
     emptyDay();
     fewerSeatsByNow();
@@ -121,6 +168,9 @@ public final class Promise10PassDayTest {
     mergedBusGoesOnce();
     mergedBusShareSeats();
     doesNotLook();
+    aDayPasses();
+    isAnAct();
+    returnsHowManyRideByTaxi();
     Due.finish();
   }
 }

@@ -106,11 +106,48 @@ public final class Promise13UndoTest {
     Due.due("undo() is no act", x.undo(), 1);
   }
 
+  private static void removesAndRestoresTheLatest() {
+    Due.promise(13, "`int undo()`: Removes and restores the latest state of the history.");
+    CountedBuses x = Due.worksWithEnds(600);
+    x.book(0, 0, 1);
+    x.book(0, 0, 2);
+    x.set(0, 9);
+    Due.due("undo of set", x.undo(), 3);
+    Due.due("the setting", x.count(11), 5);
+    Due.due("the worker stays", x.worker(1, 2), 2);
+    Due.due("undo of the second booking", x.undo(), 2);
+    Due.due("the second worker", x.worker(1, 2), -1);
+    Due.due("the first one stays", x.worker(0, 2), 1);
+    Due.due("undo of the first booking", x.undo(), 1);
+    Due.due("the first worker", x.worker(0, 2), -1);
+    Due.due("the shift end stays", x.count(0), 1);
+    Due.due("undo of addEnd", x.undo(), 0);
+    Due.due("shift ends", x.count(0), 0);
+  }
+
+  private static void returnsHowManyAreLeft() {
+    Due.promise(13, "Returns the number of states that are left; NONE if the history is empty.");
+    CountedBuses x = new CountedBuses();
+    Due.due("at first", x.undo(), -5);
+    for (int acts = 1; acts <= 6; acts++) {
+      for (int i = 0; i < acts; i++) {
+        x.passDay();
+      }
+      for (int left = Math.min(4, acts) - 1; left >= 0; left--) {
+        Due.due("undo after " + acts + " acts", x.undo(), left);
+        Due.due("states", x.count(16), left);
+      }
+      Due.due("one undo more", x.undo(), -5);
+    }
+  }
+
   public static void main(String[] args) {
     eachActIsUndone();
     otherThingsInItsPlace();
     atMostFourStates();
     whatIsNoAct();
+    removesAndRestoresTheLatest();
+    returnsHowManyAreLeft();
     Due.finish();
   }
 }

@@ -66,10 +66,53 @@ public final class Promise16WorkerTest {
     Due.holds("asking changes nothing", before.equals(Due.allOf(x)));
   }
 
+  private static void whoIsAsked() {
+    Due.promise(16, "`int worker(int worker, int what)`: - `worker`: a worker with a booking");
+    CountedBuses x = Due.worksWithEnds(600);
+    Due.due("nobody has a booking yet", x.worker(0, 0), -1);
+    for (int w = 0; w < 3; w++) {
+      x.book(0, 0, 7 + w);
+    }
+    Due.each("worker", Due.NOBODY, worker -> x.worker(worker, 2), -1);
+    for (int w = 0; w < 3; w++) {
+      Due.due("worker(" + w + ", 2)", x.worker(w, 2), 7 + w);
+      x.takeBack(w);
+      Due.due("worker(" + w + ", 2) after takeBack", x.worker(w, 2), -1);
+    }
+  }
+
+  private static void whatIsAsked() {
+    Due.promise(16, "- `what`: 0 for the shift end, 1 for the line, 2 for the stop");
+    CountedBuses x = Due.worksWithEnds(600, 700, 800);
+    for (int w = 0; w < 18; w++) {
+      x.book(w % 3, w % 2, 1 + w % 9);
+    }
+    for (int w = 0; w < 18; w++) {
+      Due.due("worker(" + w + ", 0)", x.worker(w, 0), w % 3);
+      Due.due("worker(" + w + ", 1)", x.worker(w, 1), w % 2);
+      Due.due("worker(" + w + ", 2)", x.worker(w, 2), 1 + w % 9);
+    }
+  }
+
+  private static void returnsTheNumber() {
+    Due.promise(16, "Returns the number; UNKNOWN; BAD_VALUE.");
+    CountedBuses x = Due.worksWithEnds(600);
+    x.book(0, 0, 4);
+    for (int what = 0; what <= 8; what++) {
+      Due.due("worker(0, " + what + ")", x.worker(0, what), new int[] {0, 0, 4, 1, 20, 0, 0, 0, 0}[what]);
+    }
+    int[] bad = {-1, 9, 256, 65536, Integer.MIN_VALUE, Integer.MAX_VALUE};
+    Due.each("worker(0, what) with what at", bad, what -> x.worker(0, what), -2);
+    Due.each("no worker, with what at", bad, what -> x.worker(1, what), -1);
+  }
+
   public static void main(String[] args) {
     allThatIsTold();
     reasonsByTheOthers();
     errors();
+    whoIsAsked();
+    whatIsAsked();
+    returnsTheNumber();
     Due.finish();
   }
 }

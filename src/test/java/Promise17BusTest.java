@@ -55,10 +55,57 @@ public final class Promise17BusTest {
     Due.holds("asking changes nothing", before.equals(Due.allOf(x)));
   }
 
+  private static void whichBusIsAsked() {
+    CountedBuses x = Due.worksWithEnds(600, 700, 800);
+    Due.promise(17, "`int bus(int line, int end, int what)`: - `line`: 0 or 1");
+    Due.each("bus of the line", Due.NO_LINES, line -> x.bus(line, 0, 0), -1);
+    Due.promise(17, "- `end`: a shift end");
+    Due.each("bus of the shift end", Due.NOBODY, end -> x.bus(0, end, 0), -1);
+    for (int bus = 0; bus < 6; bus++) {
+      for (int riders = 0; riders < bus; riders++) {
+        x.book(bus / 2, bus % 2, 9);
+      }
+    }
+    for (int bus = 0; bus < 6; bus++) {
+      Due.due("riders of the bus " + bus, x.bus(bus % 2, bus / 2, 2), bus);
+      Due.due("start of the bus " + bus, x.bus(bus % 2, bus / 2, 0), 600 + 100 * (bus / 2));
+    }
+  }
+
+  private static void whatIsAsked() {
+    Due.promise(17, "- `what`: 0 for the minute at which its bus starts, 1 for the shift end with which it is merged (NONE without"
+        + " one)");
+    CountedBuses x = Due.worksWithEnds(0, 30, 1409, 1439);
+    x.merge(1, 0, 1);
+    x.merge(1, 3, 2);
+    int[][] due = {{30, 1}, {30, 0}, {1439, 3}, {1439, 2}};
+    int[] minutes = {0, 30, 1409, 1439};
+    for (int end = 0; end < 4; end++) {
+      Due.due("bus(1, " + end + ", 0)", x.bus(1, end, 0), due[end][0]);
+      Due.due("bus(1, " + end + ", 1)", x.bus(1, end, 1), due[end][1]);
+      Due.due("bus(0, " + end + ", 0)", x.bus(0, end, 0), minutes[end]);
+      Due.due("bus(0, " + end + ", 1)", x.bus(0, end, 1), -5);
+    }
+  }
+
+  private static void returnsTheNumber() {
+    Due.promise(17, "Returns the number; UNKNOWN (line or end); BAD_VALUE.");
+    CountedBuses x = Due.worksWithEnds(600);
+    x.book(0, 1, 4);
+    due(x, 1, 0, 600, -5, 1, 0, 4, 28);
+    int[] bad = {-1, 6, 256, 65536, Integer.MIN_VALUE, Integer.MAX_VALUE};
+    Due.each("bus(1, 0, what) with what at", bad, what -> x.bus(1, 0, what), -2);
+    Due.each("no line, with what at", bad, what -> x.bus(2, 0, what), -1);
+    Due.each("no shift end, with what at", bad, what -> x.bus(1, 1, what), -1);
+  }
+
   public static void main(String[] args) {
     allThatIsTold();
     costOfThoseWhoRide();
     errors();
+    whichBusIsAsked();
+    whatIsAsked();
+    returnsTheNumber();
     Due.finish();
   }
 }
